@@ -1,0 +1,122 @@
+import java.util.ArrayList;
+import java.util.Arrays;
+import java.util.List;
+
+/** What the tests share: counting wrong answers, writing texts on the pad, and all that an object shows. */
+final class Check {
+    private int answers = 0;
+    private int wrong = 0;
+
+    void due(String call, long want, long got) {
+        answers++;
+        if (got != want) {
+            wrong++;
+            System.out.println(call + " answered " + got + ", due is " + want);
+        }
+    }
+
+    void same(String what, List<Integer> want, List<Integer> got) {
+        answers++;
+        if (!want.equals(got)) {
+            wrong++;
+            System.out.println(what + ": " + got + ", due is " + want);
+        }
+    }
+
+    void that(String what, boolean holds) {
+        due(what, 1, holds ? 1 : 0);
+    }
+
+    int wrongOnes() {
+        return wrong;
+    }
+
+    /** Ends the test. */
+    void end() {
+        System.out.println(answers + " answers, " + wrong + " of them wrong");
+        if (wrong != 0 || answers == 0) {
+            System.exit(1);
+        }
+    }
+
+    /** Up to eight characters as put() takes them. */
+    static long packed(String text) {
+        long characters = 0;
+        for (int i = 0; i < text.length(); i++) {
+            characters = characters << 8 | text.charAt(i);
+        }
+        return characters;
+    }
+
+    /** Appends a text of any length. */
+    static void write(ProxyVotes x, String text) {
+        for (int from = 0; from < text.length(); from += 8) {
+            x.put(packed(text.substring(from, Math.min(text.length(), from + 8))));
+        }
+    }
+
+    /** Makes members with these weights, all of group 0. */
+    static ProxyVotes committee(int... weights) {
+        ProxyVotes x = new ProxyVotes();
+        for (int weight : weights) {
+            x.member(weight, 0);
+        }
+        return x;
+    }
+
+    static void come(ProxyVotes x, int... members) {
+        for (int member : members) {
+            x.come(member);
+        }
+    }
+
+    /** The six sums of an item. */
+    static List<Integer> sums(ProxyVotes x, int item) {
+        List<Integer> sums = new ArrayList<>();
+        for (int what = 3; what <= 8; what++) {
+            sums.add(x.ofItem(item, what));
+        }
+        return sums;
+    }
+
+    static List<Integer> row(Integer... numbers) {
+        return Arrays.asList(numbers);
+    }
+
+    /** All that undo() brings back, as far as it shows. */
+    static List<Integer> state(ProxyVotes x) {
+        List<Integer> shown = new ArrayList<>();
+        for (int what = 0; what <= 21; what++) {
+            if (what != 14 && what != 15) {
+                shown.add(x.count(what));
+            }
+        }
+        for (int member = 0; member < x.count(1); member++) {
+            for (int what = 0; what <= 5; what++) {
+                shown.add(x.ofMember(member, what));
+            }
+        }
+        for (int item = 0; item < x.count(2); item++) {
+            for (int what = 0; what <= 11; what++) {
+                shown.add(x.ofItem(item, what));
+            }
+            for (int member = 0; member < x.count(1); member++) {
+                for (int what = 0; what <= 6; what++) {
+                    shown.add(x.at(member, item, what));
+                }
+            }
+            // The waiting movements show only here.
+            shown.add(x.quorumAt(item));
+        }
+        return shown;
+    }
+
+    /** state(), and the pad and the history, as far as they show. */
+    static List<Integer> all(ProxyVotes x) {
+        List<Integer> shown = state(x);
+        shown.add(x.count(14));
+        shown.add(x.count(15));
+        shown.add(x.fault());
+        return shown;
+    }
+}
