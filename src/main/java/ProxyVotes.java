@@ -369,14 +369,13 @@ public final class ProxyVotes {
         return turned;
     }
 
-    /** Fills in what each vote for the item would add, and leaves the sums as without; returns who could give one. */
+    /** Returns who could still vote; finds what each of them would add, and leaves the sums as they are without. */
     private int findGains(Item row) {
         hearing.listen(trial, row);
         hearing.tally(trial, row);
         int without = hearing.sums[FOR];
         int free = 0;
         for (int member = 0; member < trial.memberCount; member++) {
-            gains[member] = 0;
             if (trial.canVote(member, row) && row.votes[member] == NONE) {
                 free |= 1 << member;
                 row.votes[member] = FOR;
@@ -681,7 +680,12 @@ public final class ProxyVotes {
             if (chairNamed != NONE && isPresent(chairNamed)) {
                 return chairNamed;
             }
-            return present == 0 ? NONE : Integer.numberOfTrailingZeros(present);
+            for (int member = 0; member < memberCount; member++) {
+                if (isPresent(member)) {
+                    return member;
+                }
+            }
+            return NONE;
         }
 
         private int firstIn(int state) {
@@ -971,20 +975,17 @@ public final class ProxyVotes {
             return end;
         }
 
+        /** A way that has gone on for as many steps as there can be members goes in a circle of absent ones. */
         private int endOfWay(Committee committee, Item row, int member) {
-            int met = 0;
+            int steps = committee.settings[CHAIN] == 0 ? 1 : MOST_MEMBERS;
             int reached = member;
-            for (int step = 0; step < MOST_MEMBERS; step++) {
-                met |= 1 << reached;
+            for (int step = 0; step < steps; step++) {
                 reached = committee.holderFor(reached, row);
                 if (reached == NONE) {
                     return NONE;
                 }
                 if (committee.isPresent(reached)) {
                     return committee.isRecused(reached, row) ? NONE : reached;
-                }
-                if (committee.settings[CHAIN] == 0 || (met >> reached & 1) == 1) {
-                    return NONE;
                 }
             }
             return NONE;
@@ -1135,7 +1136,8 @@ public final class ProxyVotes {
         private int read() {
             place = 0;
             orders = 0;
-            while (orders < MOST_CHARACTERS && readOrder()) {
+            for (int order = 0; order < MOST_CHARACTERS && readOrder(order); order++) {
+                orders++;
                 if (place >= length) {
                     return NONE;
                 }
@@ -1148,60 +1150,50 @@ public final class ProxyVotes {
         }
 
         /** If it cannot read an order, it stays at the character that cannot stand there. */
-        private boolean readOrder() {
-            members[orders] = NONE;
-            numbers[orders] = NONE;
+        private boolean readOrder(int order) {
             char sign = ahead();
             if (!isSign(sign)) {
                 return false;
             }
-            signs[orders] = sign;
+            signs[order] = sign;
             place++;
-            if (!readRest(sign)) {
-                return false;
-            }
-            orders++;
-            return true;
-        }
-
-        private boolean readRest(char sign) {
             switch (sign) {
                 case '+':
                 case '-':
-                    return readMember();
+                    return readMember(order);
                 case 'o':
                 case 'm':
-                    return readNumber();
+                    return readNumber(order);
                 case 'v':
-                    return readMember() && readChoice('0');
+                    return readMember(order) && readChoice(order, '0');
                 case 'x':
-                    return readChoice('1');
+                    return readChoice(order, '1');
                 default:
                     return true;
             }
         }
 
-        private boolean readMember() {
+        private boolean readMember(int order) {
             char letter = ahead();
             if (letter < 'A' || letter > 'L') {
                 return false;
             }
-            members[orders] = letter - 'A';
+            members[order] = letter - 'A';
             place++;
             return true;
         }
 
-        private boolean readChoice(char lowest) {
+        private boolean readChoice(int order, char lowest) {
             char digit = ahead();
             if (digit < lowest || digit > '2') {
                 return false;
             }
-            numbers[orders] = digit - '0';
+            numbers[order] = digit - '0';
             place++;
             return true;
         }
 
-        private boolean readNumber() {
+        private boolean readNumber(int order) {
             if (!isDigit(ahead())) {
                 return false;
             }
@@ -1212,7 +1204,7 @@ public final class ProxyVotes {
                 number = 10 * number + ahead() - '0';
                 place++;
             }
-            numbers[orders] = number;
+            numbers[order] = number;
             return true;
         }
 
@@ -1226,7 +1218,8 @@ public final class ProxyVotes {
         }
 
         private static boolean isSign(char sign) {
-            return sign == '+' || sign == '-' || sign == 'o' || sign == 'v' || sign == 'c' || sign == 'x' || sign == 'm';
+            return sign == '+' || sign == '-' || sign == 'o' || sign == 'v' || sign == 'c' || sign == 'x'
+                || sign == 'm';
         }
     }
 }

@@ -149,6 +149,10 @@ public final class MembersTest {
         CHECK.due("9: take back for all", 2, x.proxy(0, NONE, NONE));
         CHECK.due("9: none for all", NONE, x.ofMember(0, 3));
         CHECK.due("9: take back again", NONE, x.proxy(0, NONE, NONE));
+        x.proxy(2, NONE, 0);
+        x.proxy(2, 0, 1);
+        CHECK.due("9: the one of this member", 0, x.proxy(2, NONE, 1));
+        CHECK.due("9: the one of this member", 1, x.proxy(2, 0, NONE));
         x.open(0);
         x.close();
         CHECK.due("9: also for an item that is closed", NONE, x.proxy(0, 0, 1));
@@ -174,6 +178,8 @@ public final class MembersTest {
         CHECK.due("10: not of the others", NONE, x.at(1, 0, 2));
         CHECK.due("10: none any more", 1, x.tell(0, 0, NONE));
         CHECK.due("10: none", NONE, x.at(0, 0, 2));
+        x.tell(2, 0, 2);
+        CHECK.due("10: the one of this member", 2, x.tell(2, 0, 0));
         x.come(1);
         x.come(2);
         x.open(0);

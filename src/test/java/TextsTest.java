@@ -113,6 +113,13 @@ public final class TextsTest {
         ProxyVotes x = Check.committee(1, 2);
         Check.write(x, "+A;+A;+B");
         CHECK.due("30: up to the first error", 1, x.carryOut());
+        Check.write(x, "m1;m2;m4");
+        x.carryOut();
+        Check.write(x, "m8");
+        CHECK.due("30: only what is on the pad", 1, x.carryOut());
+        CHECK.due("30: only what is on the pad", 15, x.count(0));
+        x.undo();
+        x.undo();
         CHECK.due("30: not behind it", 1, x.count(3));
         CHECK.due("30: the pad is empty", 0, x.count(14));
         CHECK.due("30: one change", 3, x.count(15));

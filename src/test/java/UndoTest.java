@@ -12,6 +12,8 @@ public final class UndoTest {
         promise31WhatIsNone();
         promise32Save();
         promise33Restore();
+        promise33NothingIsLeft();
+        promise33Sums();
         CHECK.end();
     }
 
@@ -175,6 +177,70 @@ public final class UndoTest {
         CHECK.due("32: the first", 23, x.restore(0));
         CHECK.due("32: the second", 20, x.restore(1));
         CHECK.due("32: the first", 23, x.restore(0));
+    }
+
+    private static void promise33NothingIsLeft() {
+        ProxyVotes x = new ProxyVotes();
+        x.save(0);
+        x.member(1, 3);
+        x.member(2, 2);
+        x.item(0, 8);
+        x.proxy(1, NONE, 0);
+        x.proxy(1, 0, 0);
+        x.tell(1, 0, 2);
+        x.recuse(1, 0, 1);
+        x.chair(1);
+        x.later(3, 0, 1);
+        x.come(1);
+        x.open(0);
+        x.go(1);
+        x.close();
+        x.set(ProxyVotes.QUORUM, 0);
+        x.open(0);
+        x.close();
+        x.come(0);
+        x.save(1);
+        List<Integer> late = Check.state(x);
+        x.restore(0);
+        CHECK.due("33: the settings", 50, x.count(16));
+        CHECK.due("33: no movement waits", 0, x.count(13));
+        x.member(3, 1);
+        x.member(4, 0);
+        x.item(2, 0);
+        int[] item = {2, 0, 0, 0, 0, 0, 0, 7, 0, NONE, 0, 0};
+        for (int what = 0; what < item.length; what++) {
+            CHECK.due("33: nothing is left of an item, " + what, item[what], x.ofItem(0, what));
+        }
+        int[] member = {4, 0, 0, NONE, 0, 0};
+        for (int what = 0; what < member.length; what++) {
+            CHECK.due("33: nothing is left of a member, " + what, member[what], x.ofMember(1, what));
+        }
+        int[] both = {NONE, NONE, NONE, 4, NONE, 0, 0};
+        for (int what = 0; what < both.length; what++) {
+            CHECK.due("33: nothing is left of both, " + what, both[what], x.at(1, 0, what));
+        }
+        CHECK.due("33: the chair", 0, x.count(5));
+        x.restore(1);
+        CHECK.same("33: all is back", late, Check.state(x));
+        CHECK.due("33: the group", 3, x.ofMember(0, 1));
+    }
+
+    private static void promise33Sums() {
+        ProxyVotes x = Check.committee(1, 2);
+        x.item(0, 0);
+        Check.come(x, 0, 1);
+        x.open(0);
+        x.vote(0, 1);
+        x.close();
+        x.save(0);
+        x.undo();
+        x.vote(1, 2);
+        x.close();
+        CHECK.same("33: the sums", Check.row(0, 1, 2, 0, 0, 0), Check.sums(x, 0));
+        x.restore(0);
+        CHECK.same("33: the sums of then", Check.row(0, 1, 0, 2, 0, 0), Check.sums(x, 0));
+        x.undo();
+        CHECK.same("31: the sums", Check.row(0, 1, 2, 0, 0, 0), Check.sums(x, 0));
     }
 
     private static void promise33Restore() {

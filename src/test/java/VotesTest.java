@@ -92,6 +92,13 @@ public final class VotesTest {
         CHECK.due("12: all are asked", NOT_POSSIBLE, v.open(0));
         v.proxy(1, NONE, 0);
         CHECK.due("12: all are there", 2, v.open(0));
+        ProxyVotes u = Check.committee(9, 9, 9, 9, 9, 5, 9, 9, 9, 9, 9, 6);
+        u.item(0, 0);
+        Check.come(u, 0, 1, 2, 3, 4, 5);
+        CHECK.due("12: 50 of 101", NOT_POSSIBLE, u.open(0));
+        u.go(5);
+        u.come(11);
+        CHECK.due("12: 51 of 101", 51, u.open(0));
     }
 
     private static void promise13Vote() {
@@ -116,7 +123,8 @@ public final class VotesTest {
         x.recuse(1, 0, 1);
         CHECK.due("13: recused", NOT_POSSIBLE, x.vote(1, 1));
         x.recuse(1, 0, 0);
-        CHECK.due("13: not any more", NONE, x.vote(1, 1));
+        CHECK.due("13: not any more", NONE, x.vote(1, 2));
+        CHECK.due("13: the vote of this member", 2, x.vote(1, 1));
         x.go(0);
         CHECK.due("13: the vote stands", ProxyVotes.AGAINST, x.at(0, 0, 3));
         CHECK.due("13: but no other one", NOT_POSSIBLE, x.vote(0, 1));

@@ -13,6 +13,7 @@ public final class WhatIfTest {
         promise23LowestMask();
         promise24Power();
         promise25QuorumAt();
+        promise25Turns();
         promise26BestHolder();
         promise26Ways();
         nothingChanges();
@@ -114,6 +115,12 @@ public final class WhatIfTest {
         v.come(1);
         v.set(ProxyVotes.QUORUM, 100);
         CHECK.due("22: while it waits, too", 2, v.decisive(0));
+        v.member(1, 3);
+        v.item(0, 8);
+        v.come(2);
+        CHECK.due("22: recused by the group", 2, v.decisive(1));
+        ProxyVotes u = opened(0, 1, 1, 1, 1, 1, 1, 1, 1, 1, 1, 1, 1);
+        CHECK.due("22: twelve", 4095, u.decisive(0));
     }
 
     private static void needed(ProxyVotes x, String what, int number, int set) {
@@ -178,6 +185,12 @@ public final class WhatIfTest {
         u.set(ProxyVotes.CASTING, 0);
         u.vote(0, 2);
         needed(u, "a tie is not carried", NONE, NONE);
+        ProxyVotes t = new ProxyVotes();
+        t.member(4, 1);
+        t.member(1, 2);
+        t.item(0, 2);
+        Check.come(t, 0, 1);
+        needed(t, "recused by the group", 1, 2);
     }
 
     private static void promise23LowestMask() {
@@ -206,6 +219,10 @@ public final class WhatIfTest {
         CHECK.due("24: no member", NO_SUCH, x.power(0));
         x.member(3, 0);
         CHECK.due("24: alone", 1, x.power(0));
+        ProxyVotes w = Check.committee(4, 2, 1);
+        CHECK.due("24: 4 of 7", 4, w.power(0));
+        CHECK.due("24: 2 of 7", 0, w.power(1));
+        CHECK.due("24: 1 of 7", 0, w.power(2));
         x.member(1, 1);
         CHECK.due("24: 3 of 4", 2, x.power(0));
         CHECK.due("24: 1 of 4", 0, x.power(1));
@@ -295,7 +312,68 @@ public final class WhatIfTest {
         CHECK.due("25: an item that is closed", 0, w.quorumAt(0));
     }
 
+    private static void promise25Turns() {
+        ProxyVotes y = Check.committee(1, 1);
+        y.item(0, 0);
+        y.set(ProxyVotes.QUORUM, 100);
+        y.set(ProxyVotes.LATE, 5);
+        y.set(ProxyVotes.LATE_QUORUM, 100);
+        y.come(0);
+        for (int minute = 10; minute <= 28; minute++) {
+            y.later(minute, 0, minute % 2);
+        }
+        y.later(29, 1, 1);
+        CHECK.due("25: one is away when the other comes", NONE, y.quorumAt(0));
+        y.undo();
+        y.undo();
+        y.later(30, 1, 1);
+        y.later(28, 0, 1);
+        CHECK.due("25: LATE, then twenty movements", 30, y.quorumAt(0));
+        CHECK.due("25: as many wait", 20, y.count(13));
+        ProxyVotes z = Check.committee(1, 1);
+        z.item(0, 0);
+        z.set(ProxyVotes.QUORUM, 100);
+        for (int minute = 1; minute <= 20; minute++) {
+            z.later(minute, 0, 1);
+        }
+        CHECK.due("25: twenty movements, then LATE", 240, z.quorumAt(0));
+        z.set(ProxyVotes.LATE, 10);
+        CHECK.due("25: LATE among them", 10, z.quorumAt(0));
+        ProxyVotes w = new ProxyVotes();
+        w.member(1, 1);
+        w.member(1, 1);
+        w.item(0, 2);
+        w.proxy(1, NONE, 0);
+        w.set(ProxyVotes.QUORUM, 51);
+        w.later(5, 0, 1);
+        w.later(6, 1, 1);
+        CHECK.due("25: recused by the group", 6, w.quorumAt(0));
+        ProxyVotes u = Check.committee(1);
+        u.item(0, 0);
+        for (int hours = 0; hours < 15; hours++) {
+            u.pass(600);
+        }
+        u.later(9600, 0, 1);
+        CHECK.due("25: also a minute that no pass() comes to", 9600, u.quorumAt(0));
+    }
+
     private static void promise26BestHolder() {
+        ProxyVotes y = new ProxyVotes();
+        for (int member = 0; member < 12; member++) {
+            y.member(1, member < 10 ? 0 : 1);
+        }
+        y.item(0, 0);
+        y.item(0, 2);
+        y.come(0);
+        CHECK.due("26: twelve members", 0, y.bestHolder(11, 0));
+        CHECK.due("26: recused by the group", NOT_POSSIBLE, y.bestHolder(11, 1));
+        CHECK.due("26: another group", 0, y.bestHolder(9, 1));
+        y.recuse(4, 0, 1);
+        CHECK.due("26: recused by hand", NOT_POSSIBLE, y.bestHolder(4, 0));
+        y.come(10);
+        y.go(0);
+        CHECK.due("26: the holder is recused by the group", NONE, y.bestHolder(9, 1));
+        CHECK.due("26: for the other item not", 10, y.bestHolder(9, 0));
         ProxyVotes x = Check.committee(1, 1, 1, 1, 1, 1);
         x.item(0, 0);
         for (int far : FAR) {
