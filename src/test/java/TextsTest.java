@@ -168,6 +168,5 @@ public final class TextsTest {
         CHECK.due("30: only the first can be carried out", 1, x.carryOut());
         CHECK.due("30: nothing else is open", NOT_POSSIBLE, x.close());
         CHECK.due("30: bad texts are none of the changes", 6, x.count(15));
-        CHECK.due("30: an order is not put()", BAD_VALUE, x.put(0));
     }
 }

@@ -104,10 +104,6 @@ public final class UndoTest {
     private static void promise31EachChange() {
         for (int number = 0; number < CHANGES; number++) {
             ProxyVotes x = session();
-            while (x.count(15) > 0) {
-                x.undo();
-            }
-            x = session();
             if (number == 15) {
                 x.close();
             }
