@@ -1,17 +1,29 @@
 import java.util.ArrayList;
 import java.util.Arrays;
 import java.util.List;
+import java.util.function.Supplier;
+import java.util.function.ToIntFunction;
 
 /** What the tests share: counting wrong answers, writing texts on the pad, and all that an object shows. */
 final class Check {
+    private static final int MOST_UNDO = 6;
+    private static final int SLOTS = 2;
+    private static final int LONGEST_WAIT = 100;
+
     private int answers = 0;
     private int wrong = 0;
+    private String sentence = "";
+
+    /** The sentence of the document that the next answers are about; it stands before those that are wrong. */
+    void sentence(String words) {
+        sentence = "\"" + words + "\": ";
+    }
 
     void due(String call, long want, long got) {
         answers++;
         if (got != want) {
             wrong++;
-            System.out.println(call + " answered " + got + ", due is " + want);
+            System.out.println(sentence + call + " answered " + got + ", due is " + want);
         }
     }
 
@@ -19,8 +31,64 @@ final class Check {
         answers++;
         if (!want.equals(got)) {
             wrong++;
-            System.out.println(what + ": " + got + ", due is " + want);
+            System.out.println(sentence + what + ": " + got + ", due is " + want);
         }
+    }
+
+    /** The call fails so, and changes nothing. */
+    void refused(String what, int error, Supplier<ProxyVotes> made, ToIntFunction<ProxyVotes> call) {
+        asks(what, error, made, call);
+    }
+
+    /** The call answers so, and changes nothing. */
+    void asks(String what, int answer, Supplier<ProxyVotes> made, ToIntFunction<ProxyVotes> call) {
+        due(what, answer, call.applyAsInt(made.get()));
+        same(what + " changes nothing", everything(made), everything(after(made, call)));
+    }
+
+    /** The call answers so, and is recorded as one change, which can be undone. */
+    void change(String what, int answer, Supplier<ProxyVotes> made, ToIntFunction<ProxyVotes> call) {
+        ProxyVotes x = made.get();
+        due(what, answer, call.applyAsInt(x));
+        due(what + " is recorded", Math.min(made.get().count(15) + 1, MOST_UNDO), x.count(15));
+        x.undo();
+        same(what + " is undone", state(made.get()), state(x));
+    }
+
+    static Supplier<ProxyVotes> after(Supplier<ProxyVotes> made, ToIntFunction<ProxyVotes> call) {
+        return () -> {
+            ProxyVotes x = made.get();
+            call.applyAsInt(x);
+            return x;
+        };
+    }
+
+    /** All there is to see of an object: what it shows, and what its history, pad, slots and movements hold. */
+    static List<Integer> everything(Supplier<ProxyVotes> made) {
+        List<Integer> shown = all(made.get());
+        int changes = made.get().count(15);
+        for (int back = 1; back <= changes; back++) {
+            ProxyVotes x = made.get();
+            for (int undone = 0; undone < back; undone++) {
+                shown.add(x.undo());
+            }
+            shown.addAll(state(x));
+        }
+        ProxyVotes text = made.get();
+        shown.add(text.carryOut());
+        shown.addAll(state(text));
+        for (int slot = 0; slot < SLOTS; slot++) {
+            ProxyVotes x = made.get();
+            shown.add(x.restore(slot));
+            shown.addAll(state(x));
+        }
+        ProxyVotes later = made.get();
+        for (int minutes = 0; minutes < LONGEST_WAIT && later.count(13) > 0; minutes++) {
+            later.pass(1);
+            shown.add(later.count(3));
+            shown.add(later.count(13));
+        }
+        return shown;
     }
 
     void that(String what, boolean holds) {

@@ -74,8 +74,9 @@ public final class TextsTest {
         for (String text : early) {
             CHECK.due("29: " + text, text.length(), fault(text));
         }
-        String[] wrong = {"A", "0", ";", "+M", "+a", "+0", "-@", "-;", "oA", "o;", "o0x", "o01", "o00", "m1000", "o9990",
-            "mA", "v1", "vM", "vA3", "vAA", "vA00", "cc", "c;;", "c1", "x0", "x3", "xA", "x11", "+AB", "+A+", "m12c",
+        String[] wrong = {"A", "0", ";", "+M", "+a", "+0", "-@", "-;", "oA", "o;", "o0x", "o01", "o00", "m1000",
+            "o9990", "mA", "v1", "vM", "vA3", "vAA", "vA00", "cc", "c;;", "c1", "x0", "x3", "xA", "x11", "+AB", "+A+",
+            "m12c",
             "C", "O1", "V", "c;c;c,", "+A;o1000", "vA1;vB3", "m05", "m-1", "c;A", "m999;m9999", "+A;-B;x0"};
         int[] places = {0, 0, 0, 1, 1, 1, 1, 1, 1, 1, 2, 2, 2, 4, 4,
             1, 1, 1, 2, 2, 3, 1, 2, 1, 1, 1, 1, 2, 2, 2, 3,
