@@ -147,6 +147,39 @@ final class Check {
         return sums;
     }
 
+    void numbers(String what, int[] due, int[] got) {
+        for (int i = 0; i < due.length; i++) {
+            due(what + ", " + i, due[i], got[i]);
+        }
+    }
+
+    /** All that ofMember() tells. */
+    static int[] ofMember(ProxyVotes x, int member) {
+        int[] got = new int[6];
+        for (int what = 0; what < got.length; what++) {
+            got[what] = x.ofMember(member, what);
+        }
+        return got;
+    }
+
+    /** All that ofItem() tells. */
+    static int[] ofItem(ProxyVotes x, int item) {
+        int[] got = new int[12];
+        for (int what = 0; what < got.length; what++) {
+            got[what] = x.ofItem(item, what);
+        }
+        return got;
+    }
+
+    /** All that at() tells. */
+    static int[] at(ProxyVotes x, int member, int item) {
+        int[] got = new int[7];
+        for (int what = 0; what < got.length; what++) {
+            got[what] = x.at(member, item, what);
+        }
+        return got;
+    }
+
     static List<Integer> row(Integer... numbers) {
         return Arrays.asList(numbers);
     }

@@ -25,15 +25,15 @@ public final class ConventionsEdgesTest {
     }
 
     private static void busy(String what, int error, ToIntFunction<ProxyVotes> call) {
-        CHECK.refused(what, error, Rooms::busy, call);
+        CHECK.refused(what, error, Committees::busy, call);
     }
 
     private static void tied(String what, int error, ToIntFunction<ProxyVotes> call) {
-        CHECK.refused(what, error, Rooms::tied, call);
+        CHECK.refused(what, error, Committees::tied, call);
     }
 
     private static void full(String what, int error, ToIntFunction<ProxyVotes> call) {
-        CHECK.refused(what, error, Rooms::full, call);
+        CHECK.refused(what, error, Committees::full, call);
     }
 
     private static void constants() {
@@ -45,6 +45,15 @@ public final class ConventionsEdgesTest {
         CHECK.due("NOT_POSSIBLE", -5, ProxyVotes.NOT_POSSIBLE);
         CHECK.sentence("NONE (-6) is not an error");
         CHECK.due("NONE", -6, ProxyVotes.NONE);
+        CHECK.sentence("QUORUM = 0, LATE_QUORUM = 1, LATE = 2, LIMIT = 3, CHAIN = 4, CASTING = 5");
+        CHECK.numbers("settings", new int[] {0, 1, 2, 3, 4, 5}, new int[] {ProxyVotes.QUORUM, ProxyVotes.LATE_QUORUM,
+            ProxyVotes.LATE, ProxyVotes.LIMIT, ProxyVotes.CHAIN, ProxyVotes.CASTING});
+        CHECK.sentence("WAITING = 0, OPEN = 1, TIED = 2, CARRIED = 3, LOST = 4");
+        CHECK.numbers("states", new int[] {0, 1, 2, 3, 4}, new int[] {ProxyVotes.WAITING, ProxyVotes.OPEN,
+            ProxyVotes.TIED, ProxyVotes.CARRIED, ProxyVotes.LOST});
+        CHECK.sentence("ABSTAINED = 0, FOR = 1, AGAINST = 2, SILENT = 3, UNHEARD = 4, RECUSED = 5");
+        CHECK.numbers("ways", new int[] {0, 1, 2, 3, 4, 5}, new int[] {ProxyVotes.ABSTAINED, ProxyVotes.FOR,
+            ProxyVotes.AGAINST, ProxyVotes.SILENT, ProxyVotes.UNHEARD, ProxyVotes.RECUSED});
     }
 
     private static void settingUpFails() {
@@ -91,21 +100,22 @@ public final class ConventionsEdgesTest {
         busy("the open one is opened", NOT_POSSIBLE, x -> x.open(1));
         busy("another one is open", NOT_POSSIBLE, x -> x.open(2));
         tied("a closed one is opened", NOT_POSSIBLE, x -> x.open(1));
-        CHECK.refused("no quorum", NOT_POSSIBLE, () -> Rooms.plain(2), x -> x.open(0));
+        CHECK.refused("no quorum", NOT_POSSIBLE, () -> Committees.plain(2), x -> x.open(0));
         busy("nobody votes", NO_SUCH, x -> x.vote(4, 1));
         busy("a choice that is too high", BAD_VALUE, x -> x.vote(0, 3));
         busy("an absent one votes", NOT_POSSIBLE, x -> x.vote(3, 1));
-        CHECK.refused("a recused one votes", NOT_POSSIBLE, Check.after(Rooms::busy, x -> x.come(1)), x -> x.vote(1, 1));
+        CHECK.refused("a recused one votes", NOT_POSSIBLE, Check.after(Committees::busy, x -> x.come(1)),
+            x -> x.vote(1, 1));
         tied("nothing is open", NOT_POSSIBLE, x -> x.vote(0, 1));
         tied("nothing is open", NOT_POSSIBLE, ProxyVotes::close);
         tied("a choice that is none for the chair", BAD_VALUE, x -> x.cast(0));
         busy("nothing is tied", NOT_POSSIBLE, x -> x.cast(1));
-        CHECK.refused("nobody is present", NOT_POSSIBLE, Check.after(Rooms::tied, ConventionsEdgesTest::allGo),
+        CHECK.refused("nobody is present", NOT_POSSIBLE, Check.after(Committees::tied, ConventionsEdgesTest::allGo),
             x -> x.cast(1));
         CHECK.refused("the chair is recused", NOT_POSSIBLE, ConventionsEdgesTest::recusedChair, x -> x.cast(1));
         busy("too few minutes", BAD_VALUE, x -> x.pass(0));
         busy("too many minutes", BAD_VALUE, x -> x.pass(601));
-        CHECK.refused("a minute that is too late", NOT_POSSIBLE, Rooms::atTheEnd, x -> x.pass(1));
+        CHECK.refused("a minute that is too late", NOT_POSSIBLE, Committees::atTheEnd, x -> x.pass(1));
     }
 
     private static int allGo(ProxyVotes x) {
@@ -113,7 +123,7 @@ public final class ConventionsEdgesTest {
     }
 
     private static ProxyVotes recusedChair() {
-        ProxyVotes x = Rooms.plain(2);
+        ProxyVotes x = Committees.plain(2);
         x.recuse(0, 0, 1);
         x.come(0);
         x.come(1);
@@ -151,18 +161,18 @@ public final class ConventionsEdgesTest {
         busy("bestHolder of a recused one", NOT_POSSIBLE, x -> x.bestHolder(1, 1));
         busy("bestHolder of one who has a holder", NOT_POSSIBLE, x -> x.bestHolder(3, 1));
         // For item 1 are 3 FOR and, behind member 2, none more: 3 * 3 is at least 2 * 3.
-        CHECK.asks("wouldBe", ProxyVotes.CARRIED, Rooms::busy, x -> x.wouldBe(1));
-        CHECK.asks("decisive", 1 + 4, Rooms::busy, x -> x.decisive(1));
-        CHECK.asks("needed", 0, Rooms::busy, x -> x.needed(1, 1));
-        CHECK.asks("power", 5, Rooms::busy, x -> x.power(2));
-        CHECK.asks("quorumAt", 0, Rooms::busy, x -> x.quorumAt(2));
+        CHECK.asks("wouldBe", ProxyVotes.CARRIED, Committees::busy, x -> x.wouldBe(1));
+        CHECK.asks("decisive", 1 + 4, Committees::busy, x -> x.decisive(1));
+        CHECK.asks("needed", 0, Committees::busy, x -> x.needed(1, 1));
+        CHECK.asks("power", 5, Committees::busy, x -> x.power(2));
+        CHECK.asks("quorumAt", 0, Committees::busy, x -> x.quorumAt(2));
         CHECK.asks("quorumAt, which looks ahead", 5, ConventionsEdgesTest::quorumLater, x -> x.quorumAt(0));
-        CHECK.asks("bestHolder", 2, Rooms::busy, x -> x.bestHolder(3, 0));
-        CHECK.asks("bestHolder of one who has a holder for all items", 0, Rooms::busy, x -> x.bestHolder(1, 2));
+        CHECK.asks("bestHolder", 2, Committees::busy, x -> x.bestHolder(3, 0));
+        CHECK.asks("bestHolder of one who has a holder for all items", 0, Committees::busy, x -> x.bestHolder(1, 2));
     }
 
     private static ProxyVotes quorumLater() {
-        ProxyVotes x = Rooms.plain(2);
+        ProxyVotes x = Committees.plain(2);
         x.later(5, 1, 1);
         x.later(9, 0, 1);
         return x;
@@ -174,9 +184,9 @@ public final class ConventionsEdgesTest {
         busy("a code that is too low", BAD_VALUE, x -> x.put(32));
         busy("a good code behind a bad one", BAD_VALUE, x -> x.put(0x2041));
         full("a character too many", TOO_MANY, x -> x.put('c'));
-        Supplier<ProxyVotes> wrong = Check.after(Rooms::busy, x -> x.put('m'));
+        Supplier<ProxyVotes> wrong = Check.after(Committees::busy, x -> x.put('m'));
         CHECK.refused("a fault", BAD_TEXT, wrong, ProxyVotes::carryOut);
-        CHECK.refused("an empty pad", BAD_TEXT, Rooms::tied, ProxyVotes::carryOut);
+        CHECK.refused("an empty pad", BAD_TEXT, Committees::tied, ProxyVotes::carryOut);
         CHECK.asks("fault", 8, wrong, ProxyVotes::fault);
     }
 
@@ -215,7 +225,7 @@ public final class ConventionsEdgesTest {
         tied("vote: bad choice, nothing is open", BAD_VALUE, x -> x.vote(0, 3));
         busy("vote: bad choice, absent", BAD_VALUE, x -> x.vote(3, 3));
         busy("cast: bad choice, nothing is tied", BAD_VALUE, x -> x.cast(0));
-        CHECK.refused("pass: bad minutes, too late", BAD_VALUE, Rooms::atTheEnd, x -> x.pass(601));
+        CHECK.refused("pass: bad minutes, too late", BAD_VALUE, Committees::atTheEnd, x -> x.pass(601));
         busy("ofMember: no member, bad what", NO_SUCH, x -> x.ofMember(4, 6));
         busy("ofItem: no item, bad what", NO_SUCH, x -> x.ofItem(3, 12));
         busy("at: no member, bad what", NO_SUCH, x -> x.at(4, 0, 7));
@@ -229,14 +239,14 @@ public final class ConventionsEdgesTest {
 
     private static void noneIsNoError() {
         CHECK.sentence("NONE (-6) is not an error");
-        Supplier<ProxyVotes> open = () -> Rooms.opened(2);
+        Supplier<ProxyVotes> open = () -> Committees.opened(2);
         CHECK.change("a first holder", NONE, open, x -> x.proxy(0, NONE, 1));
         CHECK.change("a holder taken back who was none", NONE, open, x -> x.proxy(0, 0, NONE));
         CHECK.change("a first choice", NONE, open, x -> x.tell(0, 0, 1));
         CHECK.change("a first vote", NONE, open, x -> x.vote(0, 1));
         CHECK.change("a vote in a text, and what stands behind it", 2, Check.after(open,
             x -> x.put(Check.packed("vA1;m1"))), ProxyVotes::carryOut);
-        ProxyVotes y = Rooms.opened(2);
+        ProxyVotes y = Committees.opened(2);
         Check.write(y, "vA1;vB2;m7");
         CHECK.due("a text goes on behind NONE", 3, y.carryOut());
         CHECK.due("up to its end", 7, y.count(0));
@@ -244,23 +254,24 @@ public final class ConventionsEdgesTest {
 
     private static void noneOnlyWithoutErrors() {
         CHECK.sentence("it is returned only if no error applies");
-        Supplier<ProxyVotes> lost = Check.after(Rooms::tied, x -> x.cast(2));
+        Supplier<ProxyVotes> lost = Check.after(Committees::tied, x -> x.cast(2));
         CHECK.refused("needed: there is no such set, but the item is closed", NOT_POSSIBLE, lost, x -> x.needed(0, 0));
-        CHECK.refused("needed: there is no such set, but what is bad", BAD_VALUE, () -> Rooms.plain(1),
+        CHECK.refused("needed: there is no such set, but what is bad", BAD_VALUE, () -> Committees.plain(1),
             x -> x.needed(0, 2));
-        CHECK.asks("needed: there is no such set", NONE, () -> Rooms.plain(1), x -> x.needed(0, 0));
+        CHECK.asks("needed: there is no such set", NONE, () -> Committees.plain(1), x -> x.needed(0, 0));
         CHECK.refused("bestHolder: there is nobody else, but the member is present", NOT_POSSIBLE,
-            () -> Rooms.opened(1), x -> x.bestHolder(0, 0));
-        CHECK.asks("bestHolder: there is nobody", NONE, () -> Rooms.plain(1), x -> x.bestHolder(0, 0));
-        CHECK.refused("quorumAt: never, but there is no item", NO_SUCH, () -> Rooms.plain(1), x -> x.quorumAt(1));
-        CHECK.asks("quorumAt: never", NONE, () -> Rooms.plain(1), x -> x.quorumAt(0));
-        CHECK.refused("proxy: there was none, but the holder is the member", NO_SUCH, () -> Rooms.plain(1),
+            () -> Committees.opened(1), x -> x.bestHolder(0, 0));
+        CHECK.asks("bestHolder: there is nobody", NONE, () -> Committees.plain(1), x -> x.bestHolder(0, 0));
+        CHECK.refused("quorumAt: never, but there is no item", NO_SUCH, () -> Committees.plain(1), x -> x.quorumAt(1));
+        CHECK.asks("quorumAt: never", NONE, () -> Committees.plain(1), x -> x.quorumAt(0));
+        CHECK.refused("proxy: there was none, but the holder is the member", NO_SUCH, () -> Committees.plain(1),
             x -> x.proxy(0, 0, 0));
-        CHECK.refused("tell: there was none, but the choice is bad", BAD_VALUE, () -> Rooms.plain(1),
+        CHECK.refused("tell: there was none, but the choice is bad", BAD_VALUE, () -> Committees.plain(1),
             x -> x.tell(0, 0, -5));
         CHECK.refused("vote: there was none, but the member is absent", NOT_POSSIBLE,
-            Check.after(() -> Rooms.opened(2), x -> x.go(1)), x -> x.vote(1, 1));
-        CHECK.refused("at: nobody speaks, but there is no member", NO_SUCH, () -> Rooms.plain(1), x -> x.at(1, 0, 0));
+            Check.after(() -> Committees.opened(2), x -> x.go(1)), x -> x.vote(1, 1));
+        CHECK.refused("at: nobody speaks, but there is no member", NO_SUCH, () -> Committees.plain(1),
+            x -> x.at(1, 0, 0));
     }
 
     private static void numbersAndMasks() {
@@ -299,7 +310,7 @@ public final class ConventionsEdgesTest {
         for (int call = 507; call <= 512; call++) {
             CHECK.due("call " + call, 512 - call, x.undo());
         }
-        ProxyVotes y = Rooms.full();
+        ProxyVotes y = Committees.full();
         for (int call = 54 + 1; call < 512; call++) {
             y.put('c');
         }

@@ -37,7 +37,7 @@ public final class CountingEdgesTest {
 
     private static void whoCanVote() {
         CHECK.sentence("While an item is OPEN, a member who is present and not recused can vote");
-        Supplier<ProxyVotes> open = () -> Rooms.opened(2);
+        Supplier<ProxyVotes> open = () -> Committees.opened(2);
         CHECK.change("present and not recused", NONE, open, x -> x.vote(1, 0));
         CHECK.refused("absent", NOT_POSSIBLE, Check.after(open, x -> x.go(1)), x -> x.vote(1, 1));
         CHECK.refused("recused by hand", NOT_POSSIBLE, Check.after(open, x -> x.recuse(1, 0, 1)), x -> x.vote(1, 1));
@@ -54,7 +54,7 @@ public final class CountingEdgesTest {
     }
 
     private static ProxyVotes present(int members) {
-        ProxyVotes x = Rooms.plain(members);
+        ProxyVotes x = Committees.plain(members);
         for (int member = 0; member < members; member++) {
             x.come(member);
         }
@@ -76,7 +76,7 @@ public final class CountingEdgesTest {
     private static void votesStand() {
         CHECK.sentence("A vote that was given stands, also when the member leaves or is recused by hand later");
         for (int choice = 0; choice <= 2; choice++) {
-            ProxyVotes x = Rooms.opened(3);
+            ProxyVotes x = Committees.opened(3);
             x.vote(1, choice);
             x.go(1);
             CHECK.due("when the member has left", choice, x.at(1, 0, 1));
@@ -98,7 +98,7 @@ public final class CountingEdgesTest {
 
     private static void recusedFirst() {
         CHECK.sentence("RECUSED (5) if the member is recused");
-        ProxyVotes x = Rooms.opened(2);
+        ProxyVotes x = Committees.opened(2);
         x.vote(0, 1);
         x.recuse(0, 0, 1);
         CHECK.due("before the own vote", ProxyVotes.RECUSED, x.at(0, 0, 3));
@@ -115,7 +115,7 @@ public final class CountingEdgesTest {
     private static void ownVoteSecond() {
         CHECK.sentence("by the own vote, if one was given: ABSTAINED (0), FOR (1) or AGAINST (2)");
         for (int choice = 0; choice <= 2; choice++) {
-            ProxyVotes x = Rooms.opened(3);
+            ProxyVotes x = Committees.opened(3);
             x.vote(0, choice);
             CHECK.due("before SILENT", choice, x.at(0, 0, 3));
             x.tell(0, 0, (choice + 1) % 3);
@@ -131,7 +131,7 @@ public final class CountingEdgesTest {
 
     private static void silentThird() {
         CHECK.sentence("SILENT (3) if the member is present");
-        ProxyVotes x = Rooms.opened(2);
+        ProxyVotes x = Committees.opened(2);
         x.tell(0, 0, 1);
         x.proxy(0, NONE, 1);
         x.vote(1, 2);
@@ -142,7 +142,7 @@ public final class CountingEdgesTest {
 
     private static void unheardFourth() {
         CHECK.sentence("UNHEARD (4) if the member has nobody");
-        ProxyVotes x = Rooms.opened(2);
+        ProxyVotes x = Committees.opened(2);
         x.go(0);
         x.tell(0, 0, 1);
         CHECK.due("before the told choice", ProxyVotes.UNHEARD, x.at(0, 0, 3));
@@ -158,7 +158,7 @@ public final class CountingEdgesTest {
     private static void toldFifth() {
         CHECK.sentence("by the told choice, if there is one: 0, 1 or 2");
         for (int choice = 0; choice <= 2; choice++) {
-            ProxyVotes x = Rooms.opened(2);
+            ProxyVotes x = Committees.opened(2);
             x.go(0);
             x.proxy(0, NONE, 1);
             x.tell(0, 0, choice);
@@ -173,7 +173,7 @@ public final class CountingEdgesTest {
     private static void speakerLast() {
         CHECK.sentence("by the own vote of the one who speaks for the member, if one was given: 0, 1 or 2");
         for (int choice = 0; choice <= 2; choice++) {
-            ProxyVotes x = Rooms.opened(3);
+            ProxyVotes x = Committees.opened(3);
             x.go(0);
             x.proxy(0, NONE, 1);
             CHECK.due("otherwise SILENT (3)", ProxyVotes.SILENT, x.at(0, 0, 3));
@@ -401,7 +401,7 @@ public final class CountingEdgesTest {
     private static void withoutCasting() {
         CHECK.sentence("If it would be TIED, and CASTING is 0, it is LOST.");
         for (int votes = 0; votes <= 1; votes++) {
-            ProxyVotes x = Rooms.opened(2);
+            ProxyVotes x = Committees.opened(2);
             if (votes == 1) {
                 x.vote(0, 1);
                 x.vote(1, 2);
@@ -412,7 +412,7 @@ public final class CountingEdgesTest {
             CHECK.due("closed", ProxyVotes.LOST, x.close());
             CHECK.due("there is no tie to break", NOT_POSSIBLE, x.cast(1));
         }
-        ProxyVotes y = Rooms.opened(2);
+        ProxyVotes y = Committees.opened(2);
         y.set(ProxyVotes.CASTING, 0);
         y.vote(0, 1);
         CHECK.due("1 to 0 is no tie", ProxyVotes.CARRIED, y.wouldBe(0));
@@ -422,12 +422,12 @@ public final class CountingEdgesTest {
 
     private static void openStates() {
         CHECK.sentence("NOT_POSSIBLE if it is not WAITING, another one is OPEN, or the quorum is not there for it");
-        CHECK.change("WAITING", 3, Rooms::tied, x -> x.open(2));
-        CHECK.refused("OPEN", NOT_POSSIBLE, () -> Rooms.opened(2), x -> x.open(0));
-        CHECK.refused("TIED", NOT_POSSIBLE, Rooms::tied, x -> x.open(0));
-        CHECK.refused("LOST", NOT_POSSIBLE, Rooms::tied, x -> x.open(1));
-        CHECK.refused("CARRIED", NOT_POSSIBLE, Check.after(Rooms::tied, x -> x.cast(1)), x -> x.open(0));
-        CHECK.refused("another one is OPEN", NOT_POSSIBLE, Rooms::busy, x -> x.open(2));
+        CHECK.change("WAITING", 3, Committees::tied, x -> x.open(2));
+        CHECK.refused("OPEN", NOT_POSSIBLE, () -> Committees.opened(2), x -> x.open(0));
+        CHECK.refused("TIED", NOT_POSSIBLE, Committees::tied, x -> x.open(0));
+        CHECK.refused("LOST", NOT_POSSIBLE, Committees::tied, x -> x.open(1));
+        CHECK.refused("CARRIED", NOT_POSSIBLE, Check.after(Committees::tied, x -> x.cast(1)), x -> x.open(0));
+        CHECK.refused("another one is OPEN", NOT_POSSIBLE, Committees::busy, x -> x.open(2));
         CHECK.refused("no quorum", NOT_POSSIBLE, () -> there(new int[] {4}, new int[] {5}), x -> x.open(0));
         CHECK.sentence("Returns the weight that is there for it, as for the quorum");
         ProxyVotes x = there(new int[] {4, 3}, new int[] {2, 1});
@@ -438,7 +438,7 @@ public final class CountingEdgesTest {
 
     private static void voteBefore() {
         CHECK.sentence("Returns the vote that was given before, NONE if there was none");
-        ProxyVotes x = Rooms.opened(2);
+        ProxyVotes x = Committees.opened(2);
         CHECK.due("none", NONE, x.vote(0, 0));
         CHECK.due("0 is none of none", 0, x.vote(0, 2));
         CHECK.due("2", 2, x.vote(0, 1));
@@ -513,7 +513,7 @@ public final class CountingEdgesTest {
 
     private static void sumsOfThen() {
         CHECK.sentence("then as they were when it was closed");
-        ProxyVotes x = Rooms.opened(3);
+        ProxyVotes x = Committees.opened(3);
         x.vote(0, 1);
         x.vote(1, 2);
         CHECK.same("open", Check.row(0, 1, 1, 1, 0, 0), Check.sums(x, 0));
@@ -565,20 +565,20 @@ public final class CountingEdgesTest {
     private static void castWhatever() {
         CHECK.sentence("(whatever CASTING is then)");
         for (int casting = 0; casting <= 1; casting++) {
-            ProxyVotes x = Rooms.tied();
+            ProxyVotes x = Committees.tied();
             x.set(ProxyVotes.CASTING, casting);
             CHECK.due("still tied", ProxyVotes.TIED, x.ofItem(0, 2));
             CHECK.due("for", ProxyVotes.CARRIED, x.cast(1));
             x.undo();
             CHECK.due("against", ProxyVotes.LOST, x.cast(2));
         }
-        CHECK.change("for", ProxyVotes.CARRIED, Rooms::tied, x -> x.cast(1));
-        CHECK.change("against", ProxyVotes.LOST, Rooms::tied, x -> x.cast(2));
+        CHECK.change("for", ProxyVotes.CARRIED, Committees::tied, x -> x.cast(1));
+        CHECK.change("against", ProxyVotes.LOST, Committees::tied, x -> x.cast(2));
     }
 
     private static void castByWhom() {
         CHECK.sentence("9 who broke the tie (NONE if nobody did)");
-        ProxyVotes x = Rooms.tied();
+        ProxyVotes x = Committees.tied();
         CHECK.due("nobody did", NONE, x.ofItem(0, 9));
         x.chair(1);
         x.cast(1);
@@ -599,30 +599,42 @@ public final class CountingEdgesTest {
     }
 
     private static void tellStates() {
+        CHECK.sentence("A member can tell a choice for an item ahead of time, for the case of being absent.");
+        ProxyVotes z = Committees.plain(2);
+        z.proxy(0, NONE, 1);
+        CHECK.due("while absent, ahead of time", NONE, z.tell(0, 0, 2));
+        CHECK.due("one who is present later, too", NONE, z.tell(1, 0, 1));
+        z.come(1);
+        CHECK.due("it is told while present", 1, z.tell(1, 0, 0));
+        CHECK.same("only that of the absent one counts", Check.row(0, 0, 1, 1, 0, 0), Check.sums(z, 0));
+        z.come(0);
+        CHECK.same("none counts when both are present", Check.row(0, 0, 0, 2, 0, 0), Check.sums(z, 0));
+        z.go(0);
+        CHECK.same("it counts again", Check.row(0, 0, 1, 1, 0, 0), Check.sums(z, 0));
         CHECK.sentence("Returns the choice that was told before, NONE if there was none");
-        ProxyVotes x = Rooms.plain(2);
+        ProxyVotes x = Committees.plain(2);
         CHECK.due("none", NONE, x.tell(0, 0, 0));
         CHECK.due("0 is none of none", 0, x.tell(0, 0, 2));
         CHECK.due("2", 2, x.tell(0, 0, NONE));
         CHECK.due("none", NONE, x.tell(0, 0, NONE));
         CHECK.sentence("NOT_POSSIBLE if the item is neither WAITING nor OPEN");
-        CHECK.change("WAITING", NONE, Rooms::tied, y -> y.tell(0, 2, 1));
-        CHECK.change("OPEN", NONE, () -> Rooms.opened(1), y -> y.tell(0, 0, 1));
-        CHECK.refused("TIED", NOT_POSSIBLE, Rooms::tied, y -> y.tell(0, 0, 1));
-        CHECK.refused("LOST", NOT_POSSIBLE, Rooms::tied, y -> y.tell(0, 1, 1));
-        CHECK.refused("LOST, none any more", NOT_POSSIBLE, Rooms::tied, y -> y.tell(0, 1, NONE));
-        CHECK.refused("CARRIED", NOT_POSSIBLE, Check.after(Rooms::tied, y -> y.cast(1)), y -> y.tell(0, 0, 1));
+        CHECK.change("WAITING", NONE, Committees::tied, y -> y.tell(0, 2, 1));
+        CHECK.change("OPEN", NONE, () -> Committees.opened(1), y -> y.tell(0, 0, 1));
+        CHECK.refused("TIED", NOT_POSSIBLE, Committees::tied, y -> y.tell(0, 0, 1));
+        CHECK.refused("LOST", NOT_POSSIBLE, Committees::tied, y -> y.tell(0, 1, 1));
+        CHECK.refused("LOST, none any more", NOT_POSSIBLE, Committees::tied, y -> y.tell(0, 1, NONE));
+        CHECK.refused("CARRIED", NOT_POSSIBLE, Check.after(Committees::tied, y -> y.cast(1)), y -> y.tell(0, 0, 1));
         CHECK.change("put off", NONE, Check.after(CountingEdgesTest::putOff, ProxyVotes::close), y -> y.tell(0, 0, 1));
     }
 
     private static void recuseStates() {
         CHECK.sentence("NOT_POSSIBLE if the item is neither WAITING nor OPEN");
-        CHECK.change("WAITING", 1, Rooms::tied, x -> x.recuse(0, 2, 1));
-        CHECK.change("OPEN", 1, () -> Rooms.opened(1), x -> x.recuse(0, 0, 1));
-        CHECK.change("OPEN, taken back", 0, () -> Rooms.opened(1), x -> x.recuse(0, 0, 0));
-        CHECK.refused("TIED", NOT_POSSIBLE, Rooms::tied, x -> x.recuse(0, 0, 1));
-        CHECK.refused("LOST", NOT_POSSIBLE, Rooms::tied, x -> x.recuse(0, 1, 1));
-        CHECK.refused("LOST, taken back", NOT_POSSIBLE, Rooms::tied, x -> x.recuse(0, 1, 0));
-        CHECK.refused("CARRIED", NOT_POSSIBLE, Check.after(Rooms::tied, x -> x.cast(1)), x -> x.recuse(0, 0, 1));
+        CHECK.change("WAITING", 1, Committees::tied, x -> x.recuse(0, 2, 1));
+        CHECK.change("OPEN", 1, () -> Committees.opened(1), x -> x.recuse(0, 0, 1));
+        CHECK.change("OPEN, taken back", 0, () -> Committees.opened(1), x -> x.recuse(0, 0, 0));
+        CHECK.refused("TIED", NOT_POSSIBLE, Committees::tied, x -> x.recuse(0, 0, 1));
+        CHECK.refused("LOST", NOT_POSSIBLE, Committees::tied, x -> x.recuse(0, 1, 1));
+        CHECK.refused("LOST, taken back", NOT_POSSIBLE, Committees::tied, x -> x.recuse(0, 1, 0));
+        CHECK.refused("CARRIED", NOT_POSSIBLE, Check.after(Committees::tied, x -> x.cast(1)), x -> x.recuse(0, 0, 1));
     }
 }

@@ -134,7 +134,7 @@ public final class EmptyEdgesTest {
     }
 
     private static ProxyVotes empty() {
-        return Rooms.plain(2);
+        return Committees.plain(2);
     }
 
     private static void nobodyPresent() {
@@ -165,14 +165,14 @@ public final class EmptyEdgesTest {
 
     private static void nothingOpen() {
         CHECK.sentence("NOT_POSSIBLE if no item is OPEN");
-        CHECK.refused("vote", NOT_POSSIBLE, Rooms::tied, x -> x.vote(0, 1));
-        CHECK.refused("close", NOT_POSSIBLE, Rooms::tied, ProxyVotes::close);
-        Supplier<ProxyVotes> closed = Check.after(() -> Rooms.opened(2), ProxyVotes::close);
+        CHECK.refused("vote", NOT_POSSIBLE, Committees::tied, x -> x.vote(0, 1));
+        CHECK.refused("close", NOT_POSSIBLE, Committees::tied, ProxyVotes::close);
+        Supplier<ProxyVotes> closed = Check.after(() -> Committees.opened(2), ProxyVotes::close);
         CHECK.refused("vote when it is closed", NOT_POSSIBLE, closed, x -> x.vote(0, 1));
         CHECK.refused("close when it is closed", NOT_POSSIBLE, closed, ProxyVotes::close);
         CHECK.sentence("4 the item that is OPEN (NONE)");
-        CHECK.due("none", NONE, Rooms.tied().count(4));
-        CHECK.due("the first", 0, Rooms.opened(1).count(4));
+        CHECK.due("none", NONE, Committees.tied().count(4));
+        CHECK.due("the first", 0, Committees.opened(1).count(4));
         CHECK.due("none any more", NONE, closed.get().count(4));
     }
 
@@ -180,9 +180,9 @@ public final class EmptyEdgesTest {
         CHECK.sentence("NOT_POSSIBLE if no item is TIED");
         Supplier<ProxyVotes> waiting = Check.after(EmptyEdgesTest::empty, x -> x.come(0));
         CHECK.refused("one is WAITING", NOT_POSSIBLE, waiting, x -> x.cast(1));
-        CHECK.refused("one is OPEN", NOT_POSSIBLE, () -> Rooms.opened(2), x -> x.cast(1));
-        Supplier<ProxyVotes> carried = Check.after(Rooms::tied, x -> x.cast(1));
-        Supplier<ProxyVotes> lost = Check.after(Rooms::tied, x -> x.cast(2));
+        CHECK.refused("one is OPEN", NOT_POSSIBLE, () -> Committees.opened(2), x -> x.cast(1));
+        Supplier<ProxyVotes> carried = Check.after(Committees::tied, x -> x.cast(1));
+        Supplier<ProxyVotes> lost = Check.after(Committees::tied, x -> x.cast(2));
         CHECK.refused("it is CARRIED by then", NOT_POSSIBLE, carried, x -> x.cast(1));
         CHECK.refused("it is LOST by then", NOT_POSSIBLE, lost, x -> x.cast(1));
     }
@@ -190,28 +190,28 @@ public final class EmptyEdgesTest {
     private static void emptyPad() {
         CHECK.sentence(
             "if there is none and the text ends too early (also if it is empty), it is the length of the text");
-        CHECK.asks("fault", 0, Rooms::tied, ProxyVotes::fault);
-        CHECK.asks("fault", 0, Check.after(Rooms::busy, ProxyVotes::wipe), ProxyVotes::fault);
+        CHECK.asks("fault", 0, Committees::tied, ProxyVotes::fault);
+        CHECK.asks("fault", 0, Check.after(Committees::busy, ProxyVotes::wipe), ProxyVotes::fault);
         CHECK.sentence("Empties the pad, and returns the length that it had.");
-        CHECK.asks("an empty one", 0, Rooms::tied, ProxyVotes::wipe);
-        CHECK.due("one of eight", 8, Rooms.busy().wipe());
-        CHECK.due("a full one", 80, Rooms.full().wipe());
-        Supplier<ProxyVotes> afterwards = Check.after(Rooms::busy, ProxyVotes::wipe);
-        CHECK.same("is no change", Check.state(Rooms.busy()), Check.state(afterwards.get()));
+        CHECK.asks("an empty one", 0, Committees::tied, ProxyVotes::wipe);
+        CHECK.due("one of eight", 8, Committees.busy().wipe());
+        CHECK.due("a full one", 80, Committees.full().wipe());
+        Supplier<ProxyVotes> afterwards = Check.after(Committees::busy, ProxyVotes::wipe);
+        CHECK.same("is no change", Check.state(Committees.busy()), Check.state(afterwards.get()));
         CHECK.due("is no change", 5, wiped().count(15));
         CHECK.due("is empty", 0, wiped().count(14));
         CHECK.due("is empty", 0, wiped().wipe());
         CHECK.sentence("BAD_TEXT if the pad has a fault (then it stays)");
-        CHECK.refused("an empty one", BAD_TEXT, Rooms::tied, ProxyVotes::carryOut);
+        CHECK.refused("an empty one", BAD_TEXT, Committees::tied, ProxyVotes::carryOut);
         CHECK.refused("one that was wiped", BAD_TEXT, EmptyEdgesTest::wiped, ProxyVotes::carryOut);
-        CHECK.refused("one that was carried out", BAD_TEXT, Check.after(Rooms::busy, ProxyVotes::carryOut),
+        CHECK.refused("one that was carried out", BAD_TEXT, Check.after(Committees::busy, ProxyVotes::carryOut),
             ProxyVotes::carryOut);
         CHECK.sentence("BAD_VALUE if there is no character");
         CHECK.refused("none", BAD_VALUE, EmptyEdgesTest::wiped, x -> x.put(0));
     }
 
     private static ProxyVotes wiped() {
-        ProxyVotes x = Rooms.plain(2);
+        ProxyVotes x = Committees.plain(2);
         x.come(0);
         x.come(1);
         x.put(Check.packed("m1;m2"));
@@ -223,7 +223,7 @@ public final class EmptyEdgesTest {
         CHECK.sentence("NOT_POSSIBLE if there is none");
         CHECK.refused("a new object", NOT_POSSIBLE, ProxyVotes::new, ProxyVotes::undo);
         CHECK.refused("everything is undone", NOT_POSSIBLE, () -> {
-            ProxyVotes x = Rooms.busy();
+            ProxyVotes x = Committees.busy();
             for (int undone = 0; undone < 6; undone++) {
                 x.undo();
             }
@@ -242,21 +242,21 @@ public final class EmptyEdgesTest {
         for (int number = 0; number < 2; number++) {
             int slot = number;
             CHECK.refused("a new object", NOT_POSSIBLE, ProxyVotes::new, x -> x.restore(slot));
-            CHECK.refused("the other one", NOT_POSSIBLE, Check.after(Rooms::tied, x -> x.save(1 - slot)),
+            CHECK.refused("the other one", NOT_POSSIBLE, Check.after(Committees::tied, x -> x.save(1 - slot)),
                 x -> x.restore(slot));
             CHECK.change("a new object, saved", 0, Check.after(ProxyVotes::new, x -> x.save(slot)),
                 x -> x.restore(slot));
-            CHECK.refused("none that could be saved in", NOT_POSSIBLE, Check.after(Rooms::tied, x -> x.save(2)),
+            CHECK.refused("none that could be saved in", NOT_POSSIBLE, Check.after(Committees::tied, x -> x.save(2)),
                 x -> x.restore(slot));
         }
     }
 
     private static void noMovements() {
         CHECK.sentence("13 movements that wait");
-        CHECK.due("none", 0, Rooms.plain(2).count(13));
+        CHECK.due("none", 0, Committees.plain(2).count(13));
         CHECK.sentence("NONE if it is not so until all movements have happened, and the minute LATE has come");
-        CHECK.asks("no movements, LATE is of no use", NONE, () -> Rooms.plain(2), x -> x.quorumAt(0));
-        ProxyVotes x = Rooms.plain(2);
+        CHECK.asks("no movements, LATE is of no use", NONE, () -> Committees.plain(2), x -> x.quorumAt(0));
+        ProxyVotes x = Committees.plain(2);
         x.pass(600);
         CHECK.due("LATE is over", NONE, x.quorumAt(0));
     }

@@ -7,6 +7,7 @@ public final class ForecastsEdgesTest {
 
     public static void main(String[] args) {
         pendingOnly();
+        askedAtOnce();
         wouldBeAsIfOpen();
         wouldBeWithoutQuorum();
         decisiveWhoCould();
@@ -45,8 +46,8 @@ public final class ForecastsEdgesTest {
 
     private static void pendingOnly() {
         CHECK.sentence("NOT_POSSIBLE if it is neither WAITING nor OPEN");
-        Supplier<ProxyVotes> waiting = () -> Rooms.plain(2);
-        Supplier<ProxyVotes> open = () -> Rooms.opened(2);
+        Supplier<ProxyVotes> waiting = () -> Committees.plain(2);
+        Supplier<ProxyVotes> open = () -> Committees.opened(2);
         Supplier<ProxyVotes> tied = Check.after(open, ProxyVotes::close);
         Supplier<ProxyVotes> carried = Check.after(tied, x -> x.cast(1));
         Supplier<ProxyVotes> lost = Check.after(tied, x -> x.cast(2));
@@ -66,6 +67,41 @@ public final class ForecastsEdgesTest {
             CHECK.refused("needed, the set, " + names[number], NOT_POSSIBLE, closed, x -> x.needed(0, 1));
             number++;
         }
+    }
+
+    /** Member 1 has somebody since the last call that had to know it. */
+    private static ProxyVotes newlyNamed() {
+        ProxyVotes x = new ProxyVotes();
+        x.come(x.member(1, 0));
+        x.member(2, 0);
+        x.come(x.member(1, 0));
+        x.item(0, 0);
+        x.item(0, 0);
+        x.open(0);
+        x.vote(0, 1);
+        x.vote(2, 2);
+        x.proxy(1, NONE, 0);
+        return x;
+    }
+
+    private static void askedAtOnce() {
+        CHECK.sentence("as things are now");
+        Supplier<ProxyVotes> made = ForecastsEdgesTest::newlyNamed;
+        CHECK.asks("who speaks for 1", 0, made, x -> x.at(1, 0, 0));
+        CHECK.asks("how 1 counts", ProxyVotes.FOR, made, x -> x.at(1, 0, 3));
+        CHECK.asks("for whom 0 speaks", 2, made, x -> x.at(0, 0, 6));
+        CHECK.asks("the weight for it", 3, made, x -> x.ofItem(0, 4));
+        CHECK.asks("the quorum", 1, Check.after(made, x -> x.set(ProxyVotes.QUORUM, 100)), x -> x.ofItem(0, 11));
+        CHECK.asks("what it would be", ProxyVotes.CARRIED, made, x -> x.wouldBe(0));
+        CHECK.asks("who is decisive", 1, made, x -> x.decisive(0));
+        CHECK.asks("who is needed", 0, made, x -> x.needed(0, 1));
+        CHECK.asks("who is needed for the other item", 1, made, x -> x.needed(1, 1));
+        CHECK.asks("when the quorum is there", 0, Check.after(made, x -> x.set(ProxyVotes.QUORUM, 100)),
+            x -> x.quorumAt(1));
+        CHECK.change("closed", ProxyVotes.CARRIED, made, ProxyVotes::close);
+        CHECK.change("the other one is opened", 4, Check.after(made, ProxyVotes::close), x -> x.open(1));
+        CHECK.asks("after a question about the other item", ProxyVotes.CARRIED,
+            Check.after(Check.after(made, x -> x.recuse(1, 1, 1)), x -> x.wouldBe(1)), x -> x.wouldBe(0));
     }
 
     private static void wouldBeAsIfOpen() {
@@ -145,6 +181,10 @@ public final class ForecastsEdgesTest {
         CHECK.due("1 to 0; by abstaining, or against it", 3, y.decisive(0));
         y.vote(0, 1);
         CHECK.due("3 to 0; only the heavier one", 1, y.decisive(0));
+        ProxyVotes z = opened(0, 1, 2);
+        z.vote(0, 1);
+        z.vote(1, 2);
+        CHECK.due("1 to 2; only who is against it", 2, z.decisive(0));
     }
 
     private static void decisiveByTheirVoteAlone() {
@@ -238,6 +278,16 @@ public final class ForecastsEdgesTest {
         needed("more than 3: two", 2, 9, z);
         z.vote(3, 0);
         needed("three are 3 to 3", NONE, NONE, z);
+        ProxyVotes w = opened(0, 1, 1, 1, 1, 4, 1);
+        w.vote(0, 1);
+        w.vote(4, 2);
+        needed("1 to 4: four more", 4, 2 + 4 + 8 + 32, w);
+        w.vote(1, 1);
+        needed("2 to 4: three more", 3, 4 + 8 + 32, w);
+        ProxyVotes v = opened(0, 2, 3, 1, 1, 1);
+        v.vote(0, 1);
+        v.vote(1, 2);
+        needed("2 to 3: two more, though one would make a tie", 2, 4 + 8, v);
     }
 
     private static void neededLowestMask() {
@@ -264,7 +314,7 @@ public final class ForecastsEdgesTest {
         ProxyVotes x = opened(0, 1, 1);
         x.vote(0, 1);
         needed("carried", 0, 0, x);
-        ProxyVotes y = Rooms.plain(2);
+        ProxyVotes y = Committees.plain(2);
         y.come(0);
         y.proxy(1, NONE, 0);
         y.tell(1, 0, 1);
@@ -280,7 +330,7 @@ public final class ForecastsEdgesTest {
         needed("1 to 1 is a tie", NONE, NONE, x);
         x.vote(1, 0);
         needed("all have voted", NONE, NONE, x);
-        needed("nobody is present", NONE, NONE, Rooms.plain(2));
+        needed("nobody is present", NONE, NONE, Committees.plain(2));
         ProxyVotes y = opened(0, 2, 3);
         y.vote(0, 2);
         needed("3 to 2", 1, 2, y);
@@ -389,7 +439,7 @@ public final class ForecastsEdgesTest {
 
     private static void bestWhoCan() {
         CHECK.sentence("of the members who are present and not recused");
-        ProxyVotes x = Rooms.plain(4);
+        ProxyVotes x = Committees.plain(4);
         CHECK.due("nobody is present", NONE, x.bestHolder(3, 0));
         x.come(2);
         CHECK.due("the only one", 2, x.bestHolder(3, 0));
@@ -410,7 +460,7 @@ public final class ForecastsEdgesTest {
 
     private static void bestFewest() {
         CHECK.sentence("and the one who is named speaks for the fewest absent members then");
-        ProxyVotes x = Rooms.plain(8);
+        ProxyVotes x = Committees.plain(8);
         x.set(ProxyVotes.LIMIT, 6);
         x.come(6);
         x.come(7);
@@ -430,7 +480,7 @@ public final class ForecastsEdgesTest {
 
     private static void bestLowest() {
         CHECK.sentence("of several the lowest one");
-        ProxyVotes x = Rooms.plain(12);
+        ProxyVotes x = Committees.plain(12);
         for (int member = 11; member >= 1; member--) {
             x.come(member);
             CHECK.due("all are as good", member, x.bestHolder(0, 0));
@@ -440,7 +490,7 @@ public final class ForecastsEdgesTest {
     }
 
     private static ProxyVotes pair() {
-        ProxyVotes x = Rooms.plain(2);
+        ProxyVotes x = Committees.plain(2);
         x.come(1);
         return x;
     }
@@ -466,7 +516,7 @@ public final class ForecastsEdgesTest {
 
     private static void bestPlaces() {
         CHECK.sentence("so that this one has somebody for an item");
-        ProxyVotes x = Rooms.plain(4);
+        ProxyVotes x = Committees.plain(4);
         x.come(3);
         x.set(ProxyVotes.LIMIT, 0);
         CHECK.due("no place", NONE, x.bestHolder(1, 0));
@@ -486,7 +536,7 @@ public final class ForecastsEdgesTest {
 
     private static void bestComeAlong() {
         CHECK.sentence("speaks for the fewest absent members then");
-        ProxyVotes x = Rooms.plain(6);
+        ProxyVotes x = Committees.plain(6);
         x.come(4);
         x.come(5);
         x.proxy(0, NONE, 2);
@@ -507,8 +557,8 @@ public final class ForecastsEdgesTest {
 
     private static void bestNobody() {
         CHECK.sentence("NONE if there is nobody");
-        CHECK.asks("nobody is present", NONE, () -> Rooms.plain(2), x -> x.bestHolder(0, 0));
-        CHECK.asks("there is no other member", NONE, () -> Rooms.plain(1), x -> x.bestHolder(0, 0));
+        CHECK.asks("nobody is present", NONE, () -> Committees.plain(2), x -> x.bestHolder(0, 0));
+        CHECK.asks("there is no other member", NONE, () -> Committees.plain(1), x -> x.bestHolder(0, 0));
         CHECK.asks("the other one is recused", NONE, Check.after(ForecastsEdgesTest::pair, x -> x.recuse(1, 0, 1)),
             x -> x.bestHolder(0, 0));
         CHECK.asks("there is no place", NONE, Check.after(ForecastsEdgesTest::pair,

@@ -48,7 +48,7 @@ public final class FullEdgesTest {
     /** The last member can do what the first one can. */
     private static void allMembersTakePart() {
         CHECK.sentence("There are up to 12 members");
-        ProxyVotes x = Rooms.plain(12);
+        ProxyVotes x = Committees.plain(12);
         for (int member = 0; member < 12; member++) {
             CHECK.due("come(" + member + ")", member + 1, x.come(member));
         }
@@ -127,7 +127,7 @@ public final class FullEdgesTest {
     /** The last item can be what the first one can. */
     private static void allItemsTakePart() {
         CHECK.sentence("There are up to 12 items");
-        ProxyVotes x = Rooms.plain(2);
+        ProxyVotes x = Committees.plain(2);
         for (int item = 1; item < 12; item++) {
             x.item(0, 0);
         }
@@ -152,7 +152,7 @@ public final class FullEdgesTest {
     }
 
     private static ProxyVotes waiting(int movements) {
-        ProxyVotes x = Rooms.plain(2);
+        ProxyVotes x = Committees.plain(2);
         for (int number = 0; number < movements; number++) {
             x.later(10 + number % 5, number % 2, number % 2);
         }
@@ -188,7 +188,7 @@ public final class FullEdgesTest {
         for (int number = 1; number <= 20; number++) {
             CHECK.due("place for 20", number, x.later(21, 1, 1));
         }
-        ProxyVotes y = Rooms.plain(2);
+        ProxyVotes y = Committees.plain(2);
         for (int number = 1; number <= 19; number++) {
             y.later(5, 0, number % 2);
         }
@@ -227,7 +227,7 @@ public final class FullEdgesTest {
         CHECK.due("80, which end too early", 80, x.fault());
         CHECK.due("wiped", 80, x.wipe());
         CHECK.due("there is place again", 8, x.put(Check.packed("c;c;c;c;")));
-        ProxyVotes y = Rooms.opened(1);
+        ProxyVotes y = Committees.opened(1);
         Check.write(y, "vA1;vA0;vA2;vA0;vA2;vA0;vA2;vA0;vA2;vA0;vA2;vA0;vA2;vA0;vA2;vA0;vA2;vA0;vA2;vA01");
         CHECK.due("80", 80, y.count(14));
         CHECK.due("a fault at the last place", 79, y.fault());
@@ -244,13 +244,13 @@ public final class FullEdgesTest {
 
     private static void atOnce() {
         CHECK.sentence("characters: 1 to 8 characters");
-        CHECK.refused("none", BAD_VALUE, Rooms::tied, x -> x.put(0));
+        CHECK.refused("none", BAD_VALUE, Committees::tied, x -> x.put(0));
         for (int length = 1; length <= 8; length++) {
             int characters = length;
             CHECK.due("so many", length, new ProxyVotes().put(Check.packed("+A;-A;m1".substring(8 - characters))));
         }
         CHECK.sentence("its lowest 8 bits are the last character, the next 8 bits the one before, and so on");
-        ProxyVotes x = Rooms.plain(1);
+        ProxyVotes x = Committees.plain(1);
         x.put(Check.packed("m7;+A;c"));
         CHECK.due("m7, +A; c fails", 2, x.carryOut());
         CHECK.due("m7", 7, x.count(0));

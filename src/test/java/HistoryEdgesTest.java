@@ -21,11 +21,13 @@ public final class HistoryEdgesTest {
         restoreKeeps();
         restoreIsAChange();
         undoneMembersAndItems();
+        restoredMembersAndItems();
+        restoredSums();
         CHECK.end();
     }
 
     private static void busy(String what, int answer, ToIntFunction<ProxyVotes> call) {
-        CHECK.change(what, answer, Rooms::busy, call);
+        CHECK.change(what, answer, Committees::busy, call);
     }
 
     private static void changes() {
@@ -40,10 +42,10 @@ public final class HistoryEdgesTest {
         busy("proxy", 0, x -> x.proxy(1, NONE, NONE));
         busy("tell", 2, x -> x.tell(1, 2, NONE));
         busy("recuse", 0, x -> x.recuse(3, 2, 0));
-        CHECK.change("open", 3, Rooms::tied, x -> x.open(2));
+        CHECK.change("open", 3, Committees::tied, x -> x.open(2));
         busy("vote", 1, x -> x.vote(0, 2));
         busy("close", ProxyVotes.CARRIED, ProxyVotes::close);
-        CHECK.change("cast", ProxyVotes.LOST, Rooms::tied, x -> x.cast(2));
+        CHECK.change("cast", ProxyVotes.LOST, Committees::tied, x -> x.cast(2));
         busy("pass", 10, x -> x.pass(10));
         busy("carryOut", 3, ProxyVotes::carryOut);
         busy("restore", 0, x -> x.restore(1));
@@ -58,10 +60,10 @@ public final class HistoryEdgesTest {
         busy("recused again", 1, x -> x.recuse(3, 2, 1));
         busy("recused by the group", 1, x -> x.recuse(1, 1, 0));
         busy("the same vote", 1, x -> x.vote(0, 1));
-        CHECK.change("no order carried out", 0, Check.after(() -> Rooms.opened(1), x -> x.put(Check.packed("+A"))),
+        CHECK.change("no order carried out", 0, Check.after(() -> Committees.opened(1), x -> x.put(Check.packed("+A"))),
             ProxyVotes::carryOut);
-        CHECK.change("what was just saved", 0, Check.after(Rooms::busy, x -> x.save(0)), x -> x.restore(0));
-        ProxyVotes x = Rooms.opened(1);
+        CHECK.change("what was just saved", 0, Check.after(Committees::busy, x -> x.save(0)), x -> x.restore(0));
+        ProxyVotes x = Committees.opened(1);
         int before = x.count(15);
         x.set(ProxyVotes.QUORUM, 50);
         CHECK.due("one more", before + 1, x.count(15));
@@ -72,7 +74,7 @@ public final class HistoryEdgesTest {
 
     private static void noChanges() {
         CHECK.sentence("each method that is a change, and returns no error");
-        Supplier<ProxyVotes> few = () -> Rooms.plain(2);
+        Supplier<ProxyVotes> few = () -> Committees.plain(2);
         CHECK.due("three changes", 3, few.get().count(15));
         CHECK.due("put", 3, Check.after(few, x -> x.put('c')).get().count(15));
         CHECK.due("wipe", 3, Check.after(few, ProxyVotes::wipe).get().count(15));
@@ -92,7 +94,7 @@ public final class HistoryEdgesTest {
 
     private static void everythingIsAsBefore() {
         CHECK.sentence("everything except the pad, the slots and the history is as it was before it");
-        ProxyVotes x = Rooms.busy();
+        ProxyVotes x = Committees.busy();
         List<Integer> before = Check.state(x);
         Check.write(x, ";c;-A;-C;m9");
         // Many things at once: +B, m3, +D, close, two go, and the movements of twelve minutes happen.
@@ -174,7 +176,7 @@ public final class HistoryEdgesTest {
 
     private static void saveEverything() {
         CHECK.sentence("Saves everything except the pad, the history and the slots in a slot");
-        ProxyVotes x = Rooms.busy();
+        ProxyVotes x = Committees.busy();
         CHECK.due("the minute", 0, x.save(0));
         List<Integer> before = Check.state(x);
         CHECK.due("the history is as it was", 6, x.count(15));
@@ -198,7 +200,7 @@ public final class HistoryEdgesTest {
         x.pass(10);
         CHECK.due("the movements, too", 2 + 4, x.count(3));
         CHECK.sentence("Returns the minute");
-        ProxyVotes y = Rooms.atTheEnd();
+        ProxyVotes y = Committees.atTheEnd();
         CHECK.due("the last one", 9000, y.save(1));
         y.undo();
         CHECK.due("restored", 9000, y.restore(1));
@@ -231,7 +233,7 @@ public final class HistoryEdgesTest {
 
     private static void restoreKeeps() {
         CHECK.sentence("Restores what was saved last in a slot, which keeps it.");
-        ProxyVotes x = Rooms.busy();
+        ProxyVotes x = Committees.busy();
         x.save(0);
         List<Integer> saved = Check.state(x);
         for (int round = 0; round < 3; round++) {
@@ -245,8 +247,8 @@ public final class HistoryEdgesTest {
 
     private static void restoreIsAChange() {
         CHECK.sentence("Restores what was saved last in a slot");
-        CHECK.change("an earlier state", 0, Rooms::busy, x -> x.restore(0));
-        CHECK.change("another one", 0, Rooms::busy, x -> x.restore(1));
+        CHECK.change("an earlier state", 0, Committees::busy, x -> x.restore(0));
+        CHECK.change("another one", 0, Committees::busy, x -> x.restore(1));
         ProxyVotes x = new ProxyVotes();
         x.pass(1);
         x.save(0);
@@ -265,7 +267,7 @@ public final class HistoryEdgesTest {
 
     private static void undoneMembersAndItems() {
         CHECK.sentence("is as it was before it");
-        ProxyVotes x = Rooms.plain(2);
+        ProxyVotes x = Committees.plain(2);
         x.member(5, 3);
         x.come(2);
         x.proxy(2, NONE, 0);
@@ -293,5 +295,61 @@ public final class HistoryEdgesTest {
         CHECK.due("no chair", NONE, y.count(5));
         y.member(1, 0);
         CHECK.due("a chair again", 0, y.count(5));
+    }
+
+    private static void restoredMembersAndItems() {
+        CHECK.sentence("Restores what was saved last in a slot");
+        ProxyVotes x = new ProxyVotes();
+        x.save(0);
+        x.come(x.member(2, 3));
+        x.member(1, 0);
+        x.chair(1);
+        x.item(2, 0);
+        x.item(1, 7);
+        x.proxy(1, NONE, 0);
+        x.proxy(1, 0, 0);
+        x.tell(1, 0, 1);
+        x.recuse(0, 0, 1);
+        x.later(5, 0, 0);
+        x.open(1);
+        x.vote(0, 1);
+        x.close();
+        x.open(0);
+        x.set(ProxyVotes.QUORUM, 100);
+        x.close();
+        x.set(ProxyVotes.QUORUM, 0);
+        x.open(0);
+        x.save(1);
+        List<Integer> full = Check.state(x);
+        x.restore(0);
+        CHECK.same("a new object", Check.state(new ProxyVotes()), Check.state(x));
+        ProxyVotes y = new ProxyVotes();
+        for (ProxyVotes each : new ProxyVotes[] {x, y}) {
+            each.member(1, 0);
+            each.member(1, 0);
+            each.item(0, 0);
+            each.item(0, 0);
+        }
+        CHECK.same("nothing is left in what is made anew", Check.state(y), Check.state(x));
+        x.restore(1);
+        CHECK.same("all is back", full, Check.state(x));
+    }
+
+    private static void restoredSums() {
+        CHECK.sentence("then as they were when it was closed");
+        ProxyVotes x = Committees.opened(2);
+        x.vote(0, 1);
+        x.close();
+        x.save(0);
+        x.undo();
+        x.vote(1, 2);
+        x.close();
+        x.save(1);
+        x.restore(0);
+        CHECK.same("the first", Check.row(0, 1, 0, 1, 0, 0), Check.sums(x, 0));
+        x.restore(1);
+        CHECK.same("the second", Check.row(0, 1, 1, 0, 0, 0), Check.sums(x, 0));
+        x.undo();
+        CHECK.same("the first again", Check.row(0, 1, 0, 1, 0, 0), Check.sums(x, 0));
     }
 }

@@ -29,7 +29,7 @@ public final class MinutesEdgesTest {
         CHECK.sentence("When a minute begins, its movements happen");
         int[] minutes = {1, 2, 599, 600};
         for (int minute : minutes) {
-            ProxyVotes x = Rooms.plain(1);
+            ProxyVotes x = Committees.plain(1);
             x.later(minute, 0, 1);
             if (minute > 1) {
                 x.pass(minute - 1);
@@ -39,12 +39,12 @@ public final class MinutesEdgesTest {
             CHECK.due("the minute", minute, x.pass(1));
             CHECK.due("at " + minute, 1, x.count(3));
             CHECK.due("it does not wait at " + minute, 0, x.count(13));
-            ProxyVotes y = Rooms.plain(1);
+            ProxyVotes y = Committees.plain(1);
             y.later(minute, 0, 1);
             y.pass(600);
             CHECK.due("on the way of a longer pass", 1, y.count(3));
         }
-        ProxyVotes z = Rooms.plain(2);
+        ProxyVotes z = Committees.plain(2);
         z.later(3, 0, 1);
         z.later(4, 1, 1);
         z.pass(3);
@@ -54,7 +54,7 @@ public final class MinutesEdgesTest {
 
     private static void inTheOrderTold() {
         CHECK.sentence("in the order in which they were told");
-        ProxyVotes x = Rooms.plain(3);
+        ProxyVotes x = Committees.plain(3);
         x.come(1);
         x.later(5, 0, 1);
         x.later(5, 1, 0);
@@ -70,14 +70,14 @@ public final class MinutesEdgesTest {
 
     private static void earlierMinutesFirst() {
         CHECK.sentence("When a minute begins, its movements happen, in the order in which they were told");
-        ProxyVotes x = Rooms.plain(2);
+        ProxyVotes x = Committees.plain(2);
         x.later(6, 0, 0);
         x.later(5, 0, 1);
         x.later(5, 1, 0);
         x.later(4, 1, 1);
         x.pass(10);
         CHECK.due("a later minute goes before a later word", 0, x.count(3));
-        ProxyVotes y = Rooms.plain(2);
+        ProxyVotes y = Committees.plain(2);
         y.later(6, 0, 1);
         y.later(5, 0, 0);
         y.pass(10);
@@ -86,7 +86,7 @@ public final class MinutesEdgesTest {
 
     private static void whetherItWasSoBefore() {
         CHECK.sentence("a member who comes is present then, one who goes absent (whether it was so before or not)");
-        ProxyVotes x = Rooms.plain(2);
+        ProxyVotes x = Committees.plain(2);
         x.come(0);
         x.later(1, 0, 1);
         x.later(1, 1, 0);
@@ -99,7 +99,7 @@ public final class MinutesEdgesTest {
         x.come(1);
         x.pass(1);
         CHECK.due("each by hand before", 2, x.count(3));
-        ProxyVotes y = Rooms.opened(2);
+        ProxyVotes y = Committees.opened(2);
         y.vote(0, 1);
         y.later(1, 0, 0);
         y.pass(1);
@@ -109,7 +109,7 @@ public final class MinutesEdgesTest {
 
     private static void laterByTheMinute() {
         CHECK.sentence("Returns how many movements wait then");
-        ProxyVotes x = Rooms.plain(2);
+        ProxyVotes x = Committees.plain(2);
         CHECK.due("one", 1, x.later(1, 0, 1));
         CHECK.due("the same again is two", 2, x.later(1, 0, 1));
         CHECK.due("three", 3, x.later(2, 1, 1));
@@ -121,7 +121,7 @@ public final class MinutesEdgesTest {
 
     private static void minute9000() {
         CHECK.sentence("Returns the minute then");
-        ProxyVotes x = Rooms.plain(1);
+        ProxyVotes x = Committees.plain(1);
         for (int minute = 600; minute <= 9000; minute += 600) {
             CHECK.due("600 more", minute, x.pass(600));
         }
@@ -134,19 +134,19 @@ public final class MinutesEdgesTest {
         CHECK.due("to 8999", 8999, x.pass(599));
         CHECK.due("to 9001", NOT_POSSIBLE, x.pass(2));
         CHECK.due("to 9000", 9000, x.pass(1));
-        CHECK.change("it is a change to come to 9000", 9000, Check.after(Rooms::atTheEnd, ProxyVotes::undo),
+        CHECK.change("it is a change to come to 9000", 9000, Check.after(Committees::atTheEnd, ProxyVotes::undo),
             y -> y.pass(600));
     }
 
     private static void movementsBehindTheEnd() {
         CHECK.sentence("minute: the present one plus 1, to the present one plus 600");
-        ProxyVotes x = Rooms.atTheEnd();
+        ProxyVotes x = Committees.atTheEnd();
         CHECK.due("9001", 1, x.later(9001, 0, 1));
         CHECK.due("9600", 2, x.later(9600, 0, 1));
         CHECK.due("no pass comes there", NOT_POSSIBLE, x.pass(1));
         CHECK.due("nothing has happened", 0, x.count(3));
         CHECK.due("they wait", 2, x.count(13));
-        ProxyVotes y = Check.after(Rooms::atTheEnd, ProxyVotes::undo).get();
+        ProxyVotes y = Check.after(Committees::atTheEnd, ProxyVotes::undo).get();
         y.later(9000, 1, 1);
         y.pass(600);
         CHECK.due("the minute 9000 begins", 2, y.count(3));
@@ -154,7 +154,7 @@ public final class MinutesEdgesTest {
 
     private static void movementsAndUndo() {
         CHECK.sentence("everything except the pad, the slots and the history is as it was before it");
-        ProxyVotes x = Rooms.plain(2);
+        ProxyVotes x = Committees.plain(2);
         x.later(5, 0, 1);
         x.later(5, 0, 0);
         x.later(5, 1, 1);
@@ -176,7 +176,7 @@ public final class MinutesEdgesTest {
 
     /** Four members of weight 1; the first so many are present. LATE_QUORUM is as high as QUORUM. */
     private static ProxyVotes four(int present) {
-        ProxyVotes x = Rooms.plain(4);
+        ProxyVotes x = Committees.plain(4);
         x.set(ProxyVotes.LATE_QUORUM, 50);
         for (int member = 0; member < present; member++) {
             x.come(member);
@@ -188,11 +188,11 @@ public final class MinutesEdgesTest {
         CHECK.sentence("Finds the first minute, from the present one on, in which the quorum is there for an item");
         CHECK.asks("the present one", 0, () -> four(2), x -> x.quorumAt(0));
         CHECK.asks("a later one", 7, Check.after(() -> four(2), x -> x.pass(7)), x -> x.quorumAt(0));
-        CHECK.asks("the last one", 9000, Check.after(Rooms::atTheEnd, x -> x.come(0)), x -> x.quorumAt(0));
+        CHECK.asks("the last one", 9000, Check.after(Committees::atTheEnd, x -> x.come(0)), x -> x.quorumAt(0));
         CHECK.asks("also if it is not there any more then", 0, Check.after(() -> four(2), x -> x.later(1, 0, 0)),
             x -> x.quorumAt(0));
-        CHECK.asks("also if another one is OPEN", 0, Rooms::busy, x -> x.quorumAt(2));
-        CHECK.asks("also if it is closed", 0, Rooms::tied, x -> x.quorumAt(1));
+        CHECK.asks("also if another one is OPEN", 0, Committees::busy, x -> x.quorumAt(2));
+        CHECK.asks("also if it is closed", 0, Committees::tied, x -> x.quorumAt(1));
     }
 
     private static void quorumByMovements() {
@@ -313,7 +313,7 @@ public final class MinutesEdgesTest {
 
     private static void quorumBehindTheEnd() {
         CHECK.sentence("Finds the first minute, from the present one on");
-        ProxyVotes x = Rooms.atTheEnd();
+        ProxyVotes x = Committees.atTheEnd();
         x.set(ProxyVotes.QUORUM, 100);
         x.set(ProxyVotes.LATE_QUORUM, 100);
         x.come(0);

@@ -67,7 +67,7 @@ public final class RangesEdgesTest {
         for (int number = 0; number < names.length; number++) {
             int setting = number;
             int[] good = from(0, highest[setting]);
-            range(names[setting], BAD_VALUE, good, Rooms::busy, (x, value) -> x.set(setting, value));
+            range(names[setting], BAD_VALUE, good, Committees::busy, (x, value) -> x.set(setting, value));
             CHECK.due(names[setting] + " at first", first[setting], new ProxyVotes().count(16 + setting));
             CHECK.due(names[setting] + " at first", first[setting], new ProxyVotes().set(setting, 0));
             ProxyVotes x = new ProxyVotes();
@@ -79,14 +79,14 @@ public final class RangesEdgesTest {
             }
         }
         CHECK.sentence("BAD_VALUE if there is no such setting");
-        range("a setting", BAD_VALUE, from(0, 5), Rooms::busy, (x, setting) -> x.set(setting, 0));
-        range("a setting", BAD_VALUE, from(0, 5), Rooms::busy, (x, setting) -> x.set(setting, 1));
+        range("a setting", BAD_VALUE, from(0, 5), Committees::busy, (x, setting) -> x.set(setting, 0));
+        range("a setting", BAD_VALUE, from(0, 5), Committees::busy, (x, setting) -> x.set(setting, 1));
     }
 
     private static void newMembers() {
         CHECK.sentence("A member has a weight (1 to 9), a group (0 to 3)");
-        range("weight", BAD_VALUE, from(1, 9), Rooms::busy, (x, weight) -> x.member(weight, 0));
-        range("group", BAD_VALUE, from(0, 3), Rooms::busy, (x, group) -> x.member(9, group));
+        range("weight", BAD_VALUE, from(1, 9), Committees::busy, (x, weight) -> x.member(weight, 0));
+        range("group", BAD_VALUE, from(0, 3), Committees::busy, (x, group) -> x.member(9, group));
         ProxyVotes x = new ProxyVotes();
         x.member(1, 3);
         x.member(9, 0);
@@ -99,8 +99,8 @@ public final class RangesEdgesTest {
     private static void newItems() {
         CHECK.sentence(
             "An item has a kind (0 majority, 1 two thirds, 2 all), a set of groups that it touches (0 to 15)");
-        range("kind", BAD_VALUE, from(0, 2), Rooms::busy, (x, kind) -> x.item(kind, 15));
-        range("groups", BAD_VALUE, from(0, 15), Rooms::busy, (x, groups) -> x.item(2, groups));
+        range("kind", BAD_VALUE, from(0, 2), Committees::busy, (x, kind) -> x.item(kind, 15));
+        range("groups", BAD_VALUE, from(0, 15), Committees::busy, (x, groups) -> x.item(2, groups));
         ProxyVotes x = new ProxyVotes();
         x.item(0, 15);
         x.item(2, 0);
@@ -111,28 +111,28 @@ public final class RangesEdgesTest {
     }
 
     private static ProxyVotes allAbsent() {
-        return Rooms.plain(4);
+        return Committees.plain(4);
     }
 
     private static ProxyVotes allPresent() {
-        return Rooms.opened(4);
+        return Committees.opened(4);
     }
 
     private static void members() {
         CHECK.sentence("NO_SUCH if there is no such member");
         int[] four = from(0, 3);
-        range("chair", NO_SUCH, four, Rooms::busy, ProxyVotes::chair);
+        range("chair", NO_SUCH, four, Committees::busy, ProxyVotes::chair);
         range("come", NO_SUCH, four, RangesEdgesTest::allAbsent, ProxyVotes::come);
         range("go", NO_SUCH, four, RangesEdgesTest::allPresent, ProxyVotes::go);
-        range("later", NO_SUCH, four, Rooms::busy, (x, member) -> x.later(1, member, 1));
-        range("proxy", NO_SUCH, four, Rooms::busy, (x, member) -> x.proxy(member, 0, NONE));
-        range("proxy", NO_SUCH, four, Rooms::busy, (x, member) -> x.proxy(member, NONE, member == 0 ? 1 : 0));
-        range("tell", NO_SUCH, four, Rooms::busy, (x, member) -> x.tell(member, 2, 1));
-        range("recuse", NO_SUCH, four, Rooms::busy, (x, member) -> x.recuse(member, 2, 1));
+        range("later", NO_SUCH, four, Committees::busy, (x, member) -> x.later(1, member, 1));
+        range("proxy", NO_SUCH, four, Committees::busy, (x, member) -> x.proxy(member, 0, NONE));
+        range("proxy", NO_SUCH, four, Committees::busy, (x, member) -> x.proxy(member, NONE, member == 0 ? 1 : 0));
+        range("tell", NO_SUCH, four, Committees::busy, (x, member) -> x.tell(member, 2, 1));
+        range("recuse", NO_SUCH, four, Committees::busy, (x, member) -> x.recuse(member, 2, 1));
         range("vote", NO_SUCH, four, RangesEdgesTest::allPresent, (x, member) -> x.vote(member, 1));
-        range("ofMember", NO_SUCH, four, Rooms::busy, (x, member) -> x.ofMember(member, 0));
-        range("at", NO_SUCH, four, Rooms::busy, (x, member) -> x.at(member, 0, 5));
-        range("power", NO_SUCH, four, Rooms::busy, ProxyVotes::power);
+        range("ofMember", NO_SUCH, four, Committees::busy, (x, member) -> x.ofMember(member, 0));
+        range("at", NO_SUCH, four, Committees::busy, (x, member) -> x.at(member, 0, 5));
+        range("power", NO_SUCH, four, Committees::busy, ProxyVotes::power);
         range("bestHolder", NO_SUCH, four, RangesEdgesTest::allAbsent, (x, member) -> x.bestHolder(member, 0));
     }
 
@@ -140,18 +140,18 @@ public final class RangesEdgesTest {
         CHECK.sentence("NO_SUCH if there is no such item");
         int[] three = from(0, 2);
         Supplier<ProxyVotes> waiting = () -> {
-            ProxyVotes x = Rooms.plain(2);
+            ProxyVotes x = Committees.plain(2);
             x.item(1, 0);
             x.item(2, 0);
             x.come(0);
             return x;
         };
-        range("proxy", NO_SUCH, orNone(0, 2), Rooms::busy, (x, item) -> x.proxy(0, item, 1));
+        range("proxy", NO_SUCH, orNone(0, 2), Committees::busy, (x, item) -> x.proxy(0, item, 1));
         range("tell", NO_SUCH, three, waiting, (x, item) -> x.tell(0, item, 1));
         range("recuse", NO_SUCH, three, waiting, (x, item) -> x.recuse(0, item, 1));
         range("open", NO_SUCH, three, waiting, ProxyVotes::open);
-        range("ofItem", NO_SUCH, three, Rooms::busy, (x, item) -> x.ofItem(item, 0));
-        range("at", NO_SUCH, three, Rooms::busy, (x, item) -> x.at(0, item, 5));
+        range("ofItem", NO_SUCH, three, Committees::busy, (x, item) -> x.ofItem(item, 0));
+        range("at", NO_SUCH, three, Committees::busy, (x, item) -> x.at(0, item, 5));
         range("wouldBe", NO_SUCH, three, waiting, ProxyVotes::wouldBe);
         range("decisive", NO_SUCH, three, waiting, ProxyVotes::decisive);
         range("needed", NO_SUCH, three, waiting, (x, item) -> x.needed(item, 1));
@@ -163,10 +163,10 @@ public final class RangesEdgesTest {
         CHECK.sentence("0 abstains, 1 for, 2 against");
         range("vote", BAD_VALUE, from(0, 2), RangesEdgesTest::allPresent, (x, choice) -> x.vote(3, choice));
         CHECK.sentence("choice: 0 to 2, or NONE");
-        range("tell", BAD_VALUE, orNone(0, 2), Rooms::busy, (x, choice) -> x.tell(3, 2, choice));
+        range("tell", BAD_VALUE, orNone(0, 2), Committees::busy, (x, choice) -> x.tell(3, 2, choice));
         CHECK.sentence("choice: 1 for, 2 against");
-        range("cast", BAD_VALUE, from(1, 2), Rooms::tied, ProxyVotes::cast);
-        ProxyVotes x = Rooms.tied();
+        range("cast", BAD_VALUE, from(1, 2), Committees::tied, ProxyVotes::cast);
+        ProxyVotes x = Committees.tied();
         CHECK.due("1 is for", ProxyVotes.CARRIED, x.cast(1));
         x.undo();
         CHECK.due("2 is against", ProxyVotes.LOST, x.cast(2));
@@ -174,10 +174,10 @@ public final class RangesEdgesTest {
 
     private static void flags() {
         CHECK.sentence("is: 1 or 0");
-        range("recuse", BAD_VALUE, from(0, 1), Rooms::busy, (x, is) -> x.recuse(0, 2, is));
+        range("recuse", BAD_VALUE, from(0, 1), Committees::busy, (x, is) -> x.recuse(0, 2, is));
         CHECK.sentence("comes: 1 if the member comes, 0 if the member goes");
-        range("later", BAD_VALUE, from(0, 1), Rooms::busy, (x, comes) -> x.later(7, 0, comes));
-        ProxyVotes x = Rooms.plain(2);
+        range("later", BAD_VALUE, from(0, 1), Committees::busy, (x, comes) -> x.later(7, 0, comes));
+        ProxyVotes x = Committees.plain(2);
         x.come(1);
         x.later(1, 0, 1);
         x.later(1, 1, 0);
@@ -186,7 +186,7 @@ public final class RangesEdgesTest {
     }
 
     private static ProxyVotes atMinute(int minute) {
-        ProxyVotes x = Rooms.plain(2);
+        ProxyVotes x = Committees.plain(2);
         for (int passed = 0; passed < minute; passed += 600) {
             x.pass(Math.min(600, minute - passed));
         }
@@ -195,7 +195,7 @@ public final class RangesEdgesTest {
 
     private static void minutes() {
         CHECK.sentence("minutes: 1 to 600");
-        range("pass", BAD_VALUE, from(1, 600), Rooms::busy, ProxyVotes::pass);
+        range("pass", BAD_VALUE, from(1, 600), Committees::busy, ProxyVotes::pass);
         CHECK.sentence("minute: the present one plus 1, to the present one plus 600");
         int[] minutes = {0, 1, 250, 600, 8400, 8999, 9000};
         for (int minute : minutes) {
@@ -215,36 +215,36 @@ public final class RangesEdgesTest {
 
     private static void whats() {
         CHECK.sentence("BAD_VALUE if what is out of range");
-        range("ofMember", BAD_VALUE, from(0, 5), Rooms::busy, (x, what) -> x.ofMember(1, what));
-        range("ofItem", BAD_VALUE, from(0, 11), Rooms::busy, (x, what) -> x.ofItem(0, what));
-        range("ofItem of an open one", BAD_VALUE, from(0, 11), Rooms::busy, (x, what) -> x.ofItem(1, what));
-        range("at", BAD_VALUE, from(0, 6), Rooms::busy, (x, what) -> x.at(1, 1, what));
-        range("count", BAD_VALUE, from(0, 21), Rooms::busy, ProxyVotes::count);
-        range("needed", BAD_VALUE, from(0, 1), Rooms::busy, (x, what) -> x.needed(2, what));
+        range("ofMember", BAD_VALUE, from(0, 5), Committees::busy, (x, what) -> x.ofMember(1, what));
+        range("ofItem", BAD_VALUE, from(0, 11), Committees::busy, (x, what) -> x.ofItem(0, what));
+        range("ofItem of an open one", BAD_VALUE, from(0, 11), Committees::busy, (x, what) -> x.ofItem(1, what));
+        range("at", BAD_VALUE, from(0, 6), Committees::busy, (x, what) -> x.at(1, 1, what));
+        range("count", BAD_VALUE, from(0, 21), Committees::busy, ProxyVotes::count);
+        range("needed", BAD_VALUE, from(0, 1), Committees::busy, (x, what) -> x.needed(2, what));
     }
 
     private static void slots() {
         CHECK.sentence("slot: 0 or 1");
-        range("save", BAD_VALUE, from(0, 1), Rooms::busy, ProxyVotes::save);
-        range("restore", BAD_VALUE, from(0, 1), Rooms::busy, ProxyVotes::restore);
+        range("save", BAD_VALUE, from(0, 1), Committees::busy, ProxyVotes::save);
+        range("restore", BAD_VALUE, from(0, 1), Committees::busy, ProxyVotes::restore);
     }
 
     private static void holders() {
         CHECK.sentence("holder: a member, or NONE if there is to be none any more");
-        range("proxy for one item", NO_SUCH, orNone(1, 3), Rooms::busy, (x, holder) -> x.proxy(0, 2, holder));
-        range("proxy for all items", NO_SUCH, orNone(1, 3), Rooms::busy, (x, holder) -> x.proxy(0, NONE, holder));
-        range("proxy of the last one", NO_SUCH, orNone(0, 2), Rooms::busy, (x, holder) -> x.proxy(3, 1, holder));
+        range("proxy for one item", NO_SUCH, orNone(1, 3), Committees::busy, (x, holder) -> x.proxy(0, 2, holder));
+        range("proxy for all items", NO_SUCH, orNone(1, 3), Committees::busy, (x, holder) -> x.proxy(0, NONE, holder));
+        range("proxy of the last one", NO_SUCH, orNone(0, 2), Committees::busy, (x, holder) -> x.proxy(3, 1, holder));
         CHECK.sentence("or the holder is the member");
         for (int member = 0; member < 4; member++) {
             int same = member;
-            CHECK.refused("for one item", NO_SUCH, Rooms::busy, x -> x.proxy(same, 2, same));
-            CHECK.refused("for all items", NO_SUCH, Rooms::busy, x -> x.proxy(same, NONE, same));
+            CHECK.refused("for one item", NO_SUCH, Committees::busy, x -> x.proxy(same, 2, same));
+            CHECK.refused("for all items", NO_SUCH, Committees::busy, x -> x.proxy(same, NONE, same));
         }
     }
 
     private static void characters() {
         CHECK.sentence("BAD_VALUE if there is no character, a code is not 33 to 126");
-        range("put", BAD_VALUE, from(33, 126), Rooms::tied, ProxyVotes::put);
+        range("put", BAD_VALUE, from(33, 126), Committees::tied, ProxyVotes::put);
         for (int place = 0; place < 8; place++) {
             for (int code = 0; code < 256; code++) {
                 long around = Check.packed("+A;-B;m1") & ~(255L << 8 * place);

@@ -5,6 +5,8 @@ public final class SpeakersEdgesTest {
 
     public static void main(String[] args) {
         absentAtFirst();
+        comeAndGo();
+        namedChairs();
         chairOfTheMoment();
         oneIsOpen();
         recusedByGroups();
@@ -27,7 +29,7 @@ public final class SpeakersEdgesTest {
 
     /** Members of weight 1 with places for six; one item; each of the way names the next one for all items. */
     private static ProxyVotes way(int members, int... way) {
-        ProxyVotes x = Rooms.plain(members);
+        ProxyVotes x = Committees.plain(members);
         x.set(ProxyVotes.LIMIT, 6);
         for (int i = 0; i + 1 < way.length; i++) {
             x.proxy(way[i], NONE, way[i + 1]);
@@ -50,6 +52,43 @@ public final class SpeakersEdgesTest {
         CHECK.due("can come", 1, x.come(0));
         x.member(1, 0);
         CHECK.due("also a later one", 1, x.count(3));
+    }
+
+    private static void comeAndGo() {
+        CHECK.sentence("NOT_POSSIBLE if the member is present");
+        for (int members = 1; members <= 12; members += 11) {
+            ProxyVotes x = Committees.plain(members);
+            int last = members - 1;
+            CHECK.due("the last one comes", 1, x.come(last));
+            CHECK.due("once", NOT_POSSIBLE, x.come(last));
+            CHECK.due("and goes", 0, x.go(last));
+            CHECK.sentence("NOT_POSSIBLE if the member is absent");
+            CHECK.due("once", NOT_POSSIBLE, x.go(last));
+            CHECK.due("and comes again", 1, x.come(last));
+            CHECK.due("nobody behind the last one", NO_SUCH, x.come(members));
+            CHECK.due("nobody behind the last one", NO_SUCH, x.go(members));
+            CHECK.sentence("NOT_POSSIBLE if the member is present");
+        }
+        CHECK.sentence("Returns how many are present then");
+        ProxyVotes y = Committees.plain(12);
+        for (int member = 0; member < 12; member++) {
+            CHECK.due("one more", member + 1, y.come(member));
+        }
+        for (int member = 0; member < 12; member++) {
+            CHECK.due("one less", 11 - member, y.go(member));
+        }
+    }
+
+    private static void namedChairs() {
+        CHECK.sentence("Returns the chair before");
+        ProxyVotes x = Committees.plain(12);
+        CHECK.due("the first one", 0, x.chair(11));
+        CHECK.due("the last one", 11, x.chair(11));
+        CHECK.due("the last one again", 11, x.chair(0));
+        CHECK.sentence("NO_SUCH if there is no such member");
+        CHECK.due("nobody", NO_SUCH, x.chair(12));
+        CHECK.due("nobody", NO_SUCH, x.chair(-1));
+        CHECK.due("the first one still", 0, x.count(5));
     }
 
     private static void chairOfTheMoment() {
@@ -78,10 +117,10 @@ public final class SpeakersEdgesTest {
 
     private static void oneIsOpen() {
         CHECK.sentence("At most one item is OPEN.");
-        ProxyVotes x = Rooms.opened(2);
+        ProxyVotes x = Committees.opened(2);
         x.item(0, 0);
         CHECK.refused("another one", NOT_POSSIBLE, () -> {
-            ProxyVotes y = Rooms.opened(2);
+            ProxyVotes y = Committees.opened(2);
             y.item(0, 0);
             return y;
         }, y -> y.open(1));
@@ -93,14 +132,15 @@ public final class SpeakersEdgesTest {
     }
 
     private static void recusedByGroups() {
-        CHECK.sentence("A member is recused for an item if the item touches the group of the member");
         for (int group = 0; group < 4; group++) {
             for (int groups = 0; groups < 16; groups++) {
                 ProxyVotes x = new ProxyVotes();
                 x.member(1, group);
                 x.item(0, groups);
                 int due = groups / (1 << group) % 2;
+                CHECK.sentence("A member is recused for an item if the item touches the group of the member");
                 CHECK.due("group " + group + " of " + groups, due, x.at(0, 0, 5));
+                CHECK.sentence("Returns 1 if the member is recused for the item then (also by a group), otherwise 0");
                 CHECK.due("and by hand " + group + " of " + groups, 1, x.recuse(0, 0, 1));
                 CHECK.due("and taken back " + group + " of " + groups, due, x.recuse(0, 0, 0));
             }
@@ -109,7 +149,7 @@ public final class SpeakersEdgesTest {
 
     private static void recusedByHand() {
         CHECK.sentence("or this was told by hand");
-        ProxyVotes x = Rooms.plain(12);
+        ProxyVotes x = Committees.plain(12);
         x.item(0, 0);
         for (int member = 0; member < 12; member += 11) {
             CHECK.due("told", 1, x.recuse(member, 0, 1));
@@ -149,7 +189,7 @@ public final class SpeakersEdgesTest {
 
     private static void namedHolders() {
         CHECK.sentence("Returns the holder that was named before, for just this, NONE if there was none");
-        ProxyVotes x = Rooms.plain(3);
+        ProxyVotes x = Committees.plain(3);
         CHECK.due("none for all", NONE, x.proxy(0, NONE, 1));
         CHECK.due("none for just the item", NONE, x.proxy(0, 0, 2));
         CHECK.due("one for all", 1, x.proxy(0, NONE, NONE));
@@ -268,7 +308,7 @@ public final class SpeakersEdgesTest {
         CHECK.sentence("Each member speaks for LIMIT absent members at most");
         int[] sets = {0, 1, 3, 7, 15, 31, 63};
         for (int absent = 0; absent <= 8; absent++) {
-            ProxyVotes x = Rooms.plain(10);
+            ProxyVotes x = Committees.plain(10);
             x.come(9);
             for (int member = 0; member < absent; member++) {
                 x.proxy(member, NONE, 9);
@@ -284,7 +324,7 @@ public final class SpeakersEdgesTest {
             }
         }
         CHECK.sentence("LIMIT (0 to 6; 2)");
-        ProxyVotes y = Rooms.plain(4);
+        ProxyVotes y = Committees.plain(4);
         y.come(3);
         y.proxy(0, NONE, 3);
         y.proxy(1, NONE, 3);
@@ -294,7 +334,7 @@ public final class SpeakersEdgesTest {
 
     private static void lowestNumbers() {
         CHECK.sentence("of those whose ways end with this member, those with the lowest numbers");
-        ProxyVotes x = Rooms.plain(7);
+        ProxyVotes x = Committees.plain(7);
         x.come(2);
         x.come(6);
         x.proxy(5, NONE, 2);
@@ -311,7 +351,7 @@ public final class SpeakersEdgesTest {
         speakers("each has places of their own", x, NONE, 2, 2, 2, 6, NONE, 6);
         x.come(1);
         speakers("one who is present takes no place", x, NONE, 1, 2, 2, 6, 2, 6);
-        ProxyVotes y = Rooms.plain(4);
+        ProxyVotes y = Committees.plain(4);
         y.item(0, 0);
         y.set(ProxyVotes.LIMIT, 1);
         y.come(3);
@@ -323,7 +363,7 @@ public final class SpeakersEdgesTest {
 
     private static void recusedTakeNoPlace() {
         CHECK.sentence("recused ones are none of them");
-        ProxyVotes x = Rooms.plain(4);
+        ProxyVotes x = Committees.plain(4);
         x.set(ProxyVotes.LIMIT, 1);
         x.come(3);
         x.proxy(0, NONE, 3);
@@ -340,7 +380,7 @@ public final class SpeakersEdgesTest {
 
     private static void ownVotesTakePlaces() {
         CHECK.sentence("recused ones are none of them, those whose own votes stand are");
-        ProxyVotes x = Rooms.opened(4);
+        ProxyVotes x = Committees.opened(4);
         x.set(ProxyVotes.LIMIT, 1);
         x.vote(0, 1);
         x.proxy(0, NONE, 3);

@@ -99,7 +99,7 @@ public final class TextsEdgesTest {
             CHECK.due("c;m" + number, 6, fault("c;m" + number));
             CHECK.due("m" + number + ";c", 4, fault("m" + number + ";c"));
         }
-        ProxyVotes x = Rooms.plain(1);
+        ProxyVotes x = Committees.plain(1);
         x.put(Check.packed("m600"));
         CHECK.due("all three digits", 1, x.carryOut());
         CHECK.due("600 minutes", 600, x.count(0));
@@ -130,7 +130,7 @@ public final class TextsEdgesTest {
 
     private static void members() {
         CHECK.sentence("A member is a letter from A to L");
-        ProxyVotes x = Rooms.plain(12);
+        ProxyVotes x = Committees.plain(12);
         for (int member = 0; member < 12; member++) {
             x.put('+');
             x.put('A' + member);
@@ -146,7 +146,7 @@ public final class TextsEdgesTest {
         CHECK.due("a is no A", 1, fault("+a"));
         CHECK.due("l is no L", 1, fault("-l"));
         CHECK.due("M votes", 1, fault("vM1"));
-        ProxyVotes y = Rooms.plain(11);
+        ProxyVotes y = Committees.plain(11);
         y.put(Check.packed("+L"));
         CHECK.due("a letter of nobody can be read", NONE, y.fault());
         CHECK.due("but not carried out", 0, y.carryOut());
@@ -165,7 +165,7 @@ public final class TextsEdgesTest {
         }
         int[] states = {ProxyVotes.CARRIED, ProxyVotes.LOST};
         for (int choice = 1; choice <= 2; choice++) {
-            ProxyVotes x = Rooms.tied();
+            ProxyVotes x = Committees.tied();
             x.put('x');
             x.put('0' + choice);
             CHECK.due("x" + choice, 1, x.carryOut());
@@ -223,19 +223,19 @@ public final class TextsEdgesTest {
 
     private static void faultChangesNothing() {
         CHECK.sentence("Returns the fault of the pad, NONE if there is none.");
-        CHECK.asks("none", NONE, Rooms::busy, ProxyVotes::fault);
-        CHECK.asks("one", 2, Check.after(Rooms::tied, x -> x.put(Check.packed("+A+"))), ProxyVotes::fault);
-        CHECK.asks("too early", 3, Check.after(Rooms::tied, x -> x.put(Check.packed("+A;"))), ProxyVotes::fault);
+        CHECK.asks("none", NONE, Committees::busy, ProxyVotes::fault);
+        CHECK.asks("one", 2, Check.after(Committees::tied, x -> x.put(Check.packed("+A+"))), ProxyVotes::fault);
+        CHECK.asks("too early", 3, Check.after(Committees::tied, x -> x.put(Check.packed("+A;"))), ProxyVotes::fault);
     }
 
     private static void eachOrder() {
         CHECK.sentence(
             "\"+\": come(), \"-\": go(), \"o\": open() of an item, \"v\": vote() of a member, \"c\": close()");
-        ProxyVotes x = Rooms.plain(2);
+        ProxyVotes x = Committees.plain(2);
         x.item(0, 0);
         Check.write(x, "+B;+A;-B;+B;o1;vB2;vA1;vA0;c;o0;c;x1;m15");
         CHECK.due("thirteen orders", 13, x.carryOut());
-        ProxyVotes y = Rooms.plain(2);
+        ProxyVotes y = Committees.plain(2);
         y.item(0, 0);
         y.come(1);
         y.come(0);
@@ -266,18 +266,18 @@ public final class TextsEdgesTest {
         String[] texts = {"+A;m1;m2", "m1;+A;m2", "m1;m2;+A"};
         int[] minutes = {0, 1, 3};
         for (int place = 0; place < 3; place++) {
-            ProxyVotes x = with(Rooms::tied, texts[place]);
+            ProxyVotes x = with(Committees::tied, texts[place]);
             CHECK.due(texts[place], place, x.carryOut());
             CHECK.due("what stands before the error", minutes[place], x.count(0));
             CHECK.due("the pad is empty", 0, x.count(14));
         }
-        ProxyVotes y = with(Rooms::tied, "m1;m2;m3");
+        ProxyVotes y = with(Committees::tied, "m1;m2;m3");
         CHECK.due("no error", 3, y.carryOut());
         CHECK.due("all of them", 6, y.count(0));
-        ProxyVotes z = with(Rooms::tied, "x1;x1;m1");
+        ProxyVotes z = with(Committees::tied, "x1;x1;m1");
         CHECK.due("an order can be possible once", 1, z.carryOut());
         CHECK.due("not behind the error", 0, z.count(0));
-        ProxyVotes w = with(() -> Rooms.opened(2), "-A;vB1;vA1;m1");
+        ProxyVotes w = with(() -> Committees.opened(2), "-A;vB1;vA1;m1");
         CHECK.due("an order may make another one fail", 2, w.carryOut());
     }
 
@@ -286,20 +286,21 @@ public final class TextsEdgesTest {
         CHECK.sentence("up to the first one that returns an error");
         String[] inTied = {"+A", "+D", "+L", "-D", "o0", "o1", "o3", "o12", "o999", "vA1", "vD1", "c", "m0", "m601"};
         for (String text : inTied) {
-            CHECK.change(text, 0, () -> with(Rooms::tied, text + ";m1"), ProxyVotes::carryOut);
+            CHECK.change(text, 0, () -> with(Committees::tied, text + ";m1"), ProxyVotes::carryOut);
         }
         String[] inBusy = {"+A", "+E", "-B", "-E", "o0", "o1", "o2", "o3", "vB1", "vD1", "vE1", "x1", "x2", "m999"};
         for (String text : inBusy) {
-            CHECK.change(text, 0, () -> with(Rooms::busy, text + ";m1"), ProxyVotes::carryOut);
+            CHECK.change(text, 0, () -> with(Committees::busy, text + ";m1"), ProxyVotes::carryOut);
         }
-        CHECK.change("above 9000", 0, () -> with(Rooms::atTheEnd, "m1"), ProxyVotes::carryOut);
+        CHECK.change("above 9000", 0, () -> with(Committees::atTheEnd, "m1"), ProxyVotes::carryOut);
     }
 
     private static void oneChange() {
         CHECK.sentence("This is a change (one, with all of them; also if none is carried out).");
-        CHECK.change("none", 0, () -> with(Rooms::tied, "+A"), ProxyVotes::carryOut);
-        CHECK.change("one", 1, () -> with(Rooms::tied, "m1"), ProxyVotes::carryOut);
-        CHECK.change("eight", 8, () -> with(() -> Rooms.opened(2), "m1;m2;-A;+A;vA1;vB2;c;x2"), ProxyVotes::carryOut);
+        CHECK.change("none", 0, () -> with(Committees::tied, "+A"), ProxyVotes::carryOut);
+        CHECK.change("one", 1, () -> with(Committees::tied, "m1"), ProxyVotes::carryOut);
+        Supplier<ProxyVotes> open = () -> Committees.opened(2);
+        CHECK.change("eight", 8, () -> with(open, "m1;m2;-A;+A;vA1;vB2;c;x2"), ProxyVotes::carryOut);
         CHECK.sentence("An order of a text records nothing by itself.");
         ProxyVotes x = new ProxyVotes();
         x.put(Check.packed("m1;m1"));
@@ -313,9 +314,9 @@ public final class TextsEdgesTest {
         CHECK.sentence("BAD_TEXT if the pad has a fault (then it stays)");
         String[] texts = {"+", "m1;", "m1;?", "m1;m1000", "m01", "c;c;c;x0"};
         for (String text : texts) {
-            CHECK.refused(text, BAD_TEXT, () -> with(Rooms::busy, text), ProxyVotes::carryOut);
+            CHECK.refused(text, BAD_TEXT, () -> with(Committees::busy, text), ProxyVotes::carryOut);
         }
-        ProxyVotes x = with(Rooms::tied, "m1;m");
+        ProxyVotes x = with(Committees::tied, "m1;m");
         CHECK.due("it ends too early", BAD_TEXT, x.carryOut());
         CHECK.due("it goes on", 5, x.put('5'));
         CHECK.due("now it can be carried out", 2, x.carryOut());
@@ -324,7 +325,7 @@ public final class TextsEdgesTest {
 
     private static void padAfterwards() {
         CHECK.sentence("and empties the pad");
-        ProxyVotes x = with(Rooms::tied, "m1;m2");
+        ProxyVotes x = with(Committees::tied, "m1;m2");
         x.carryOut();
         CHECK.due("it is empty", 0, x.count(14));
         CHECK.due("it has the fault of an empty one", 0, x.fault());

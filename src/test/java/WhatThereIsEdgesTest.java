@@ -20,48 +20,18 @@ public final class WhatThereIsEdgesTest {
         CHECK.end();
     }
 
-    private static void row(String what, int[] due, int[] got) {
-        for (int i = 0; i < due.length; i++) {
-            CHECK.due(what + ", " + i, due[i], got[i]);
-        }
-    }
-
-    private static int[] ofMember(ProxyVotes x, int member) {
-        int[] got = new int[6];
-        for (int what = 0; what < got.length; what++) {
-            got[what] = x.ofMember(member, what);
-        }
-        return got;
-    }
-
-    private static int[] ofItem(ProxyVotes x, int item) {
-        int[] got = new int[12];
-        for (int what = 0; what < got.length; what++) {
-            got[what] = x.ofItem(item, what);
-        }
-        return got;
-    }
-
-    private static int[] at(ProxyVotes x, int member, int item) {
-        int[] got = new int[7];
-        for (int what = 0; what < got.length; what++) {
-            got[what] = x.at(member, item, what);
-        }
-        return got;
-    }
-
     private static void ofMemberAtFirst() {
         CHECK.sentence("0 the weight, 1 the group, 2 whether present (1 or 0), 3 the holder for all items");
         ProxyVotes x = new ProxyVotes();
         x.member(9, 3);
         x.member(1, 0);
-        row("a heavy one", new int[] {9, 3, 0, NONE, 0, 0}, ofMember(x, 0));
-        row("a light one", new int[] {1, 0, 0, NONE, 0, 0}, ofMember(x, 1));
+        CHECK.numbers("a heavy one", new int[] {9, 3, 0, NONE, 0, 0}, Check.ofMember(x, 0));
+        CHECK.numbers("a light one", new int[] {1, 0, 0, NONE, 0, 0}, Check.ofMember(x, 1));
     }
 
     private static void presentOrNot() {
         CHECK.sentence("2 whether present (1 or 0)");
-        ProxyVotes x = Rooms.plain(12);
+        ProxyVotes x = Committees.plain(12);
         for (int member = 0; member < 12; member += 11) {
             CHECK.due("absent", 0, x.ofMember(member, 2));
             x.come(member);
@@ -74,7 +44,7 @@ public final class WhatThereIsEdgesTest {
 
     private static void holderForAll() {
         CHECK.sentence("3 the holder for all items (NONE if there is none)");
-        ProxyVotes x = Rooms.plain(12);
+        ProxyVotes x = Committees.plain(12);
         x.proxy(0, 0, 11);
         CHECK.due("one for just an item is none", NONE, x.ofMember(0, 3));
         CHECK.due("it is at the item", 11, x.at(0, 0, 4));
@@ -87,7 +57,7 @@ public final class WhatThereIsEdgesTest {
 
     private static void votesThatStand() {
         CHECK.sentence("4 the votes that were given and stand, for all items");
-        ProxyVotes x = Rooms.opened(2);
+        ProxyVotes x = Committees.opened(2);
         x.item(0, 0);
         CHECK.due("none", 0, x.ofMember(0, 4));
         x.vote(0, 0);
@@ -111,7 +81,7 @@ public final class WhatThereIsEdgesTest {
 
     private static void tiesBroken() {
         CHECK.sentence("5 the ties that were broken by this member");
-        ProxyVotes x = Rooms.plain(1);
+        ProxyVotes x = Committees.plain(1);
         x.item(0, 0);
         x.come(0);
         for (int item = 0; item < 2; item++) {
@@ -128,18 +98,21 @@ public final class WhatThereIsEdgesTest {
         ProxyVotes x = new ProxyVotes();
         x.item(2, 15);
         x.item(0, 0);
-        row("one of all groups", new int[] {2, 15, 0, 0, 0, 0, 0, 0, 0, NONE, 0, 1}, ofItem(x, 0));
+        CHECK.numbers("one of all groups", new int[] {2, 15, 0, 0, 0, 0, 0, 0, 0, NONE, 0, 1}, Check.ofItem(x, 0));
         x.member(9, 0);
-        row("one of all groups, with a member", new int[] {2, 15, 0, 0, 0, 0, 0, 0, 9, NONE, 0, 0}, ofItem(x, 0));
-        row("one of no group", new int[] {0, 0, 0, 0, 0, 0, 0, 9, 0, NONE, 0, 0}, ofItem(x, 1));
+        CHECK.numbers("one of all groups, with a member",
+            new int[] {2, 15, 0, 0, 0, 0, 0, 0, 9, NONE, 0, 0}, Check.ofItem(x, 0));
+        CHECK.numbers("one of no group", new int[] {0, 0, 0, 0, 0, 0, 0, 9, 0, NONE, 0, 0}, Check.ofItem(x, 1));
         x.come(0);
-        row("one of all groups, with one present", new int[] {2, 15, 0, 0, 0, 0, 0, 0, 9, NONE, 0, 1}, ofItem(x, 0));
-        row("one of no group, with one present", new int[] {0, 0, 0, 0, 0, 0, 9, 0, 0, NONE, 0, 1}, ofItem(x, 1));
+        CHECK.numbers("one of all groups, with one present",
+            new int[] {2, 15, 0, 0, 0, 0, 0, 0, 9, NONE, 0, 1}, Check.ofItem(x, 0));
+        CHECK.numbers("one of no group, with one present",
+            new int[] {0, 0, 0, 0, 0, 0, 9, 0, 0, NONE, 0, 1}, Check.ofItem(x, 1));
     }
 
     private static void quorumNow() {
         CHECK.sentence("11 whether the quorum is there for it now (1 or 0)");
-        ProxyVotes x = Rooms.opened(2);
+        ProxyVotes x = Committees.opened(2);
         CHECK.due("OPEN", 1, x.ofItem(0, 11));
         x.go(0);
         CHECK.due("OPEN, one of two", 1, x.ofItem(0, 11));
@@ -159,7 +132,7 @@ public final class WhatThereIsEdgesTest {
 
     private static void sumsOfStates() {
         CHECK.sentence("(while it is WAITING or OPEN as things are; then as they were when it was closed)");
-        ProxyVotes x = Rooms.plain(1);
+        ProxyVotes x = Committees.plain(1);
         CHECK.same("WAITING", Check.row(0, 0, 0, 0, 1, 0), Check.sums(x, 0));
         x.come(0);
         CHECK.same("WAITING, as things are", Check.row(0, 0, 0, 1, 0, 0), Check.sums(x, 0));
@@ -181,38 +154,42 @@ public final class WhatThereIsEdgesTest {
 
     private static void atOfClosedItems() {
         CHECK.sentence("Returns something of a member for an item, as things are now.");
-        ProxyVotes x = Rooms.opened(2);
+        ProxyVotes x = Committees.opened(2);
         x.tell(1, 0, 1);
         x.vote(0, 2);
         x.go(1);
         x.close();
-        row("LOST", new int[] {0, 2, NONE, 2, NONE, 0, 0}, at(x, 0, 0));
-        row("LOST, absent", new int[] {NONE, NONE, 1, 4, NONE, 0, 0}, at(x, 1, 0));
+        CHECK.numbers("LOST", new int[] {0, 2, NONE, 2, NONE, 0, 0}, Check.at(x, 0, 0));
+        CHECK.numbers("LOST, absent", new int[] {NONE, NONE, 1, 4, NONE, 0, 0}, Check.at(x, 1, 0));
         x.proxy(1, 0, 0);
-        row("with a holder by now", new int[] {0, 2, NONE, 2, NONE, 0, 2}, at(x, 0, 0));
-        row("absent, with a holder by now", new int[] {0, NONE, 1, 1, 0, 0, 0}, at(x, 1, 0));
+        CHECK.numbers("with a holder by now", new int[] {0, 2, NONE, 2, NONE, 0, 2}, Check.at(x, 0, 0));
+        CHECK.numbers("absent, with a holder by now", new int[] {0, NONE, 1, 1, 0, 0, 0}, Check.at(x, 1, 0));
         CHECK.same("though the sums are as they were", Check.row(0, 0, 1, 0, 1, 0), Check.sums(x, 0));
     }
 
     private static void atNone() {
         CHECK.sentence("1 the vote that was given (NONE if none was), 2 the told choice (NONE)");
-        ProxyVotes x = Rooms.opened(2);
-        row("present", new int[] {1, NONE, NONE, 3, NONE, 0, 0}, at(x, 1, 0));
+        ProxyVotes x = Committees.opened(2);
+        CHECK.numbers("present", new int[] {1, NONE, NONE, 3, NONE, 0, 0}, Check.at(x, 1, 0));
         for (int choice = 0; choice <= 2; choice++) {
             x.vote(1, choice);
             x.tell(1, 0, 2 - choice);
-            row("with both", new int[] {1, choice, 2 - choice, choice, NONE, 0, 0}, at(x, 1, 0));
+            CHECK.numbers("with both", new int[] {1, choice, 2 - choice, choice, NONE, 0, 0}, Check.at(x, 1, 0));
         }
         x.tell(1, 0, NONE);
         x.recuse(1, 0, 1);
-        row("recused", new int[] {NONE, 2, NONE, 5, NONE, 1, 0}, at(x, 1, 0));
+        CHECK.numbers("recused", new int[] {NONE, 2, NONE, 5, NONE, 1, 0}, Check.at(x, 1, 0));
         x.go(1);
-        row("recused and absent", new int[] {NONE, 2, NONE, 5, NONE, 1, 0}, at(x, 1, 0));
+        CHECK.numbers("recused and absent", new int[] {NONE, 2, NONE, 5, NONE, 1, 0}, Check.at(x, 1, 0));
+    }
+
+    private static int[] states(ProxyVotes x) {
+        return new int[] {x.count(8), x.count(9), x.count(10), x.count(11), x.count(12)};
     }
 
     private static void countStates() {
         CHECK.sentence("8 to 12 the items in the states 0 to 4");
-        ProxyVotes x = Rooms.plain(1);
+        ProxyVotes x = Committees.plain(1);
         for (int item = 1; item < 12; item++) {
             x.item(0, 0);
         }
@@ -222,12 +199,12 @@ public final class WhatThereIsEdgesTest {
             x.open(item);
             due[0]--;
             due[1]++;
-            row("open " + item, due, new int[] {x.count(8), x.count(9), x.count(10), x.count(11), x.count(12)});
+            CHECK.numbers("open " + item, due, states(x));
             x.vote(0, item % 3);
             x.close();
             due[1]--;
             due[2 + item % 3]++;
-            row("closed " + item, due, new int[] {x.count(8), x.count(9), x.count(10), x.count(11), x.count(12)});
+            CHECK.numbers("closed " + item, due, states(x));
         }
         int ties = 4;
         while (ties > 0) {
@@ -253,7 +230,7 @@ public final class WhatThereIsEdgesTest {
 
     private static void countOfTexts() {
         CHECK.sentence("13 movements that wait, 14 the length of the pad, 15 how many changes can be undone");
-        ProxyVotes x = Rooms.full();
+        ProxyVotes x = Committees.full();
         CHECK.due("20", 20, x.count(13));
         CHECK.due("80", 80, x.count(14));
         CHECK.due("6", 6, x.count(15));
@@ -265,6 +242,6 @@ public final class WhatThereIsEdgesTest {
         CHECK.due("12 members", 12, x.count(1));
         CHECK.due("12 items", 12, x.count(2));
         CHECK.due("the weight of all members", 1 + 2 + 3 + 4 + 5 + 6 + 7 + 8 + 9 + 1 + 2 + 3, x.count(7));
-        CHECK.due("the last minute", 9000, Rooms.atTheEnd().count(0));
+        CHECK.due("the last minute", 9000, Committees.atTheEnd().count(0));
     }
 }

@@ -12,36 +12,6 @@ public final class WhatThereIsTest {
         CHECK.end();
     }
 
-    private static void row(String what, int[] due, int[] got) {
-        for (int i = 0; i < due.length; i++) {
-            CHECK.due(what + " " + i, due[i], got[i]);
-        }
-    }
-
-    private static int[] ofMember(ProxyVotes x, int member) {
-        int[] got = new int[6];
-        for (int what = 0; what < 6; what++) {
-            got[what] = x.ofMember(member, what);
-        }
-        return got;
-    }
-
-    private static int[] ofItem(ProxyVotes x, int item) {
-        int[] got = new int[12];
-        for (int what = 0; what < 12; what++) {
-            got[what] = x.ofItem(item, what);
-        }
-        return got;
-    }
-
-    private static int[] at(ProxyVotes x, int member, int item) {
-        int[] got = new int[7];
-        for (int what = 0; what < 7; what++) {
-            got[what] = x.at(member, item, what);
-        }
-        return got;
-    }
-
     /** Two items are decided, one of them by the chair; the third is open. */
     private static ProxyVotes session() {
         ProxyVotes x = new ProxyVotes();
@@ -70,9 +40,9 @@ public final class WhatThereIsTest {
 
     private static void promise17OfMember() {
         ProxyVotes x = session();
-        row("17: member 0, ", new int[] {3, 0, 1, NONE, 2, 1}, ofMember(x, 0));
-        row("17: member 1, ", new int[] {2, 1, 1, NONE, 2, 0}, ofMember(x, 1));
-        row("17: member 2, ", new int[] {4, 2, 0, 0, 0, 0}, ofMember(x, 2));
+        CHECK.numbers("17: member 0, ", new int[] {3, 0, 1, NONE, 2, 1}, Check.ofMember(x, 0));
+        CHECK.numbers("17: member 1, ", new int[] {2, 1, 1, NONE, 2, 0}, Check.ofMember(x, 1));
+        CHECK.numbers("17: member 2, ", new int[] {4, 2, 0, 0, 0, 0}, Check.ofMember(x, 2));
         for (int far : FAR) {
             CHECK.due("17: no member " + far, NO_SUCH, x.ofMember(far, 0));
             CHECK.due("17: no member " + far, NO_SUCH, x.ofMember(far, 6));
@@ -85,15 +55,15 @@ public final class WhatThereIsTest {
 
     private static void promise18OfItem() {
         ProxyVotes x = session();
-        row("18: item 0, ", new int[] {0, 0, 3, 9, 0, 0, 0, 0, 0, 0, 0, 1}, ofItem(x, 0));
-        row("18: item 1, ", new int[] {1, 2, 3, 0, 7, 0, 0, 0, 2, NONE, 0, 1}, ofItem(x, 1));
-        row("18: item 2, ", new int[] {2, 0, 1, 0, 2, 4, 3, 0, 0, NONE, 0, 1}, ofItem(x, 2));
+        CHECK.numbers("18: item 0, ", new int[] {0, 0, 3, 9, 0, 0, 0, 0, 0, 0, 0, 1}, Check.ofItem(x, 0));
+        CHECK.numbers("18: item 1, ", new int[] {1, 2, 3, 0, 7, 0, 0, 0, 2, NONE, 0, 1}, Check.ofItem(x, 1));
+        CHECK.numbers("18: item 2, ", new int[] {2, 0, 1, 0, 2, 4, 3, 0, 0, NONE, 0, 1}, Check.ofItem(x, 2));
         x.go(0);
         x.go(1);
-        row("18: item 0, ", new int[] {0, 0, 3, 9, 0, 0, 0, 0, 0, 0, 0, 0}, ofItem(x, 0));
-        row("18: item 2, ", new int[] {2, 0, 1, 0, 2, 0, 0, 7, 0, NONE, 0, 0}, ofItem(x, 2));
+        CHECK.numbers("18: item 0, ", new int[] {0, 0, 3, 9, 0, 0, 0, 0, 0, 0, 0, 0}, Check.ofItem(x, 0));
+        CHECK.numbers("18: item 2, ", new int[] {2, 0, 1, 0, 2, 0, 0, 7, 0, NONE, 0, 0}, Check.ofItem(x, 2));
         x.close();
-        row("18: item 2, ", new int[] {2, 0, 0, 0, 0, 0, 0, 9, 0, NONE, 1, 0}, ofItem(x, 2));
+        CHECK.numbers("18: item 2, ", new int[] {2, 0, 0, 0, 0, 0, 0, 9, 0, NONE, 1, 0}, Check.ofItem(x, 2));
         for (int far : FAR) {
             CHECK.due("18: no item " + far, NO_SUCH, x.ofItem(far, 0));
             CHECK.due("18: no item " + far, NO_SUCH, x.ofItem(far, 12));
@@ -109,15 +79,15 @@ public final class WhatThereIsTest {
 
     private static void promise19At() {
         ProxyVotes x = session();
-        row("19: 0, 0, ", new int[] {0, 0, NONE, 0, NONE, 0, 4}, at(x, 0, 0));
-        row("19: 1, 0, ", new int[] {1, 0, NONE, 0, NONE, 0, 0}, at(x, 1, 0));
-        row("19: 2, 0, ", new int[] {0, NONE, NONE, 0, NONE, 0, 0}, at(x, 2, 0));
-        row("19: 0, 1, ", new int[] {0, 1, NONE, 1, NONE, 0, 4}, at(x, 0, 1));
-        row("19: 1, 1, ", new int[] {NONE, NONE, NONE, 5, NONE, 1, 0}, at(x, 1, 1));
-        row("19: 2, 1, ", new int[] {0, NONE, NONE, 1, NONE, 0, 0}, at(x, 2, 1));
-        row("19: 0, 2, ", new int[] {0, NONE, NONE, 3, NONE, 0, 0}, at(x, 0, 2));
-        row("19: 1, 2, ", new int[] {1, 1, NONE, 1, NONE, 0, 4}, at(x, 1, 2));
-        row("19: 2, 2, ", new int[] {1, NONE, 2, 2, 1, 0, 0}, at(x, 2, 2));
+        CHECK.numbers("19: 0, 0, ", new int[] {0, 0, NONE, 0, NONE, 0, 4}, Check.at(x, 0, 0));
+        CHECK.numbers("19: 1, 0, ", new int[] {1, 0, NONE, 0, NONE, 0, 0}, Check.at(x, 1, 0));
+        CHECK.numbers("19: 2, 0, ", new int[] {0, NONE, NONE, 0, NONE, 0, 0}, Check.at(x, 2, 0));
+        CHECK.numbers("19: 0, 1, ", new int[] {0, 1, NONE, 1, NONE, 0, 4}, Check.at(x, 0, 1));
+        CHECK.numbers("19: 1, 1, ", new int[] {NONE, NONE, NONE, 5, NONE, 1, 0}, Check.at(x, 1, 1));
+        CHECK.numbers("19: 2, 1, ", new int[] {0, NONE, NONE, 1, NONE, 0, 0}, Check.at(x, 2, 1));
+        CHECK.numbers("19: 0, 2, ", new int[] {0, NONE, NONE, 3, NONE, 0, 0}, Check.at(x, 0, 2));
+        CHECK.numbers("19: 1, 2, ", new int[] {1, 1, NONE, 1, NONE, 0, 4}, Check.at(x, 1, 2));
+        CHECK.numbers("19: 2, 2, ", new int[] {1, NONE, 2, 2, 1, 0, 0}, Check.at(x, 2, 2));
         for (int far : FAR) {
             CHECK.due("19: no member " + far, NO_SUCH, x.at(far, 0, 7));
             CHECK.due("19: no item " + far, NO_SUCH, x.at(0, far, 7));

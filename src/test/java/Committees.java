@@ -1,9 +1,9 @@
 /** Committees that several of the tests begin with. */
-final class Rooms {
+final class Committees {
     static final int NONE = -6;
     static final int MOST_MEMBERS = 12, MOST_ITEMS = 12, MOST_MOVEMENTS = 20, MOST_CHARACTERS = 80, MOST_UNDO = 6;
 
-    private Rooms() {
+    private Committees() {
     }
 
     /** Members of weight 1 and group 0, and one item of kind 0 that touches no group. */
@@ -94,7 +94,7 @@ final class Rooms {
 
     /** As many minutes have passed as may. */
     static ProxyVotes atTheEnd() {
-        ProxyVotes x = Rooms.plain(2);
+        ProxyVotes x = Committees.plain(2);
         for (int hours = 0; hours < 15; hours++) {
             x.pass(600);
         }
