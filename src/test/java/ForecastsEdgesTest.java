@@ -343,6 +343,11 @@ public final class ForecastsEdgesTest {
         needed("two thirds: 2 to 1", 2, 3, x);
         x.vote(2, 2);
         needed("two thirds: 2 to 2", NONE, NONE, x);
+        ProxyVotes w = opened(1, 9, 2, 2, 2, 2, 2, 2, 2, 1, 1, 1, 1);
+        w.vote(0, 2);
+        needed("two thirds: all of the eleven others, 18 to 9", 11, 0xffe, w);
+        w.vote(11, 0);
+        needed("two thirds: 17 to 9", NONE, NONE, w);
         ProxyVotes y = opened(2, 1, 1, 1);
         needed("all: one is enough", 1, 1, y);
         y.vote(2, 0);
